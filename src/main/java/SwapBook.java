@@ -1299,35 +1299,45 @@ public final class SwapBook {
             if (ways[placed] >> WAYS_BITS == stamp) {
                 return ways[placed] & WAYS_MASK;
             }
-            int free = freeOnes(placed);
+            int ready = readyOnes(placed);
+            int free = freeAmong(ready, set & ~placed);
             long sum;
             if (free != 0) {
                 int rest = Integer.bitCount(set & ~placed);
                 sum = waysBehind(placed | free, depth + 1) * places(rest, Integer.bitCount(free));
             } else {
-                sum = sumOverNext(placed, depth);
+                sum = sumOver(ready, placed, depth);
             }
             ways[placed] = (long) stamp << WAYS_BITS | sum;
             return sum;
         }
 
-        private long sumOverNext(int placed, int depth) {
+        private long sumOver(int ready, int placed, int depth) {
             long sum = 0;
             for (int c = 0; c < book.changes; c++) {
-                if (Book.isIn(set & ~placed, c) && isReady(c, placed)) {
+                if (Book.isIn(ready, c)) {
                     sum += waysBehind(placed | 1 << c, depth + 1);
                 }
             }
             return sum;
         }
 
+        private int readyOnes(int placed) {
+            int ready = 0;
+            for (int c = 0; c < book.changes; c++) {
+                if (Book.isIn(set & ~placed, c) && isReady(c, placed)) {
+                    ready |= 1 << c;
+                }
+            }
+            return ready;
+        }
+
         // Those of the rest that hang together with no other one: they may stand anywhere in it,
         // so they need not be tried one by one.
-        private int freeOnes(int placed) {
-            int rest = set & ~placed;
+        private int freeAmong(int ready, int rest) {
             int free = 0;
             for (int c = 0; c < book.changes; c++) {
-                if (Book.isIn(rest, c) && isReady(c, placed) && !isAwaited(c, rest)) {
+                if (Book.isIn(ready, c) && !isAwaited(c, rest)) {
                     free |= 1 << c;
                 }
             }

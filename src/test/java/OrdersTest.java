@@ -45,7 +45,11 @@ public final class OrdersTest {
         CHECK.due(x, "not in it", x.ahead(3, 2, 0), false, 2);
         CHECK.due(x, "no change", x.ahead(15, 4, 0), false, 2);
         CHECK.due(x, "no change", x.ahead(15, 0, -1), false, 2);
+        CHECK.due(x, "no change", x.ahead(15, 32, 1), false, 2);
+        CHECK.due(x, "no change", x.ahead(15, 1, 32), false, 2);
         CHECK.due(x, "set", x.ahead(16, 0, 1), false, 2);
+        CHECK.due(x, "set", x.ahead(19, 0, 1), false, 2);
+        CHECK.due(x, "set", x.ahead(-1, 0, 1), false, 2);
         CHECK.due(x, "does not hold", x.ahead(12, 2, 3), false, 9);
         CHECK.due("the fraction stays", x.top() * 10 + x.bottom(), 12);
     }
@@ -64,6 +68,17 @@ public final class OrdersTest {
         CHECK.due("orderAt(0)", x.orderAt(0), 15);
         CHECK.due("orderAt(15)", x.orderAt(15), 0);
         CHECK.due("swaps()", x.swaps(), 120);
+        long[] back = new long[16];
+        for (int i = 0; i < 16; i++) {
+            back[i] = 15 - i ^ 1;
+        }
+        lay(x, 0, 0, back);
+        CHECK.due(x, "order of 16", x.order(0, 16), true, 0);
+        CHECK.due("orderAt(15)", x.orderAt(15), 1);
+        CHECK.due("swaps()", x.swaps(), 112);
+        CHECK.due("swap(14)", x.swap(14), true);
+        CHECK.due("forward(15)", x.forward(15), 0);
+        CHECK.due(x, "ordered", x.ordered(65535, all - 1), 16, 0);
         askFraction(x, 65535, 3, 12, 1, 2);
         // Eight chains of two: 16 over 2 to the 8.
         StringBuilder chains = new StringBuilder();
@@ -137,6 +152,10 @@ public final class OrdersTest {
         CHECK.due(x, "does not hold alone", x.order(1, 1), false, 9);
         lay(x, 2, 3, 1L << 32, -1);
         CHECK.due(x, "a large number", x.order(2, 1), false, 5);
+        lay(x, 2, 3, 0, 1, 0, 4);
+        CHECK.due(x, "one again, farther on", x.order(2, 3), false, 5);
+        lay(x, 2, 3, 4);
+        CHECK.due(x, "one above the last", x.order(2, 1), false, 5);
         lay(x, 2, 3, -1);
         CHECK.due(x, "below 0", x.order(2, 1), false, 5);
         askRow(x, 1, 0, 3, 2);

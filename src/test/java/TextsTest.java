@@ -191,6 +191,9 @@ public final class TextsTest {
             + "name b of a says 1; take c of a; settle d of b not c; settle e of c not b after d;"), 5, 0);
         String filled = A + " ".repeat(900 - A.length());
         CHECK.due(x, "900 bytes", Check.book(x, filled), 1, 0);
+        faulty(false, 2, "^" + ";".repeat(900));
+        faulty(false, 2, "put a key 5 says 1" + " ".repeat(882) + "^");
+        faulty(false, 2, "put a key 5 says 1" + " ".repeat(880) + "^1;");
     }
 
     private static void askLog() {
