@@ -23,6 +23,8 @@ public final class SwapBook {
     private static final int LAST_SEED = 9999;
     private static final int MOST_SEEDS = 30;
     private static final int SEAL_DIVISOR = 251;
+    // The 1, how many CHANGES, and what is left: the numbers that even an empty SET takes.
+    private static final int SEAL_FRAME = 3;
 
     private final Tray[] trays = new Tray[TRAYS];
     private final Tokens tokens = new Tokens();
@@ -645,7 +647,7 @@ public final class SwapBook {
             return refuse(MISSING);
         }
         int count = Integer.bitCount(set);
-        if (!trays[tray].spans(0, count + 3)) {
+        if (!trays[tray].spans(0, count + SEAL_FRAME)) {
             return refuse(NO_PLACE);
         }
         if (trays[tray].sort == Tray.BITS_8) {
@@ -655,7 +657,7 @@ public final class SwapBook {
             return refuse(CANNOT_BE);
         }
         writeSeal(trays[tray], set, count);
-        return tell(count + 3);
+        return tell(count + SEAL_FRAME);
     }
 
     private void writeSeal(Tray row, int set, int count) {
@@ -685,18 +687,28 @@ public final class SwapBook {
         if (row.isMissing()) {
             return refuse(MISSING);
         }
-        if (row.length < 3 || row.get(1) > row.length - 3) {
+        if (!row.spans(0, SEAL_FRAME)) {
             return refuse(NO_PLACE);
         }
-        int set = readSeal(row);
+        int count = sealedCount(row);
+        if (count == NONE) {
+            return refuse(CANNOT_BE);
+        }
+        if (!row.spans(0, count + SEAL_FRAME)) {
+            return refuse(NO_PLACE);
+        }
+        int set = readSeal(row, count);
         return set == NONE ? refuse(CANNOT_BE) : tell(set);
     }
 
-    private int readSeal(Tray row) {
-        if (row.get(0) != 1 || row.get(1) < 0 || row.get(1) > now.book.changes) {
-            return NONE;
-        }
-        int count = (int) row.get(1);
+    // NONE if the row does not begin as what is SEALED does: then there is nothing in it that could
+    // take more numbers than the TRAY has.
+    private static int sealedCount(Tray row) {
+        long count = row.get(1);
+        return row.get(0) == 1 && count >= 0 && count <= CHANGES ? (int) count : NONE;
+    }
+
+    private int readSeal(Tray row, int count) {
         int set = 0;
         int place = 2;
         int sum = 1 + count;

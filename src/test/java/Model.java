@@ -603,6 +603,39 @@ final class Model {
         };
     }
 
+    // ---- sealed rows
+
+    List<Long> sealed(int set) {
+        List<Long> row = new ArrayList<>();
+        row.add(1L);
+        row.add((long) Integer.bitCount(set));
+        for (int c : in(set)) {
+            row.add(changes.get(c).kind + 5L * c);
+        }
+        row.add(row.stream().mapToLong(v -> v).sum() % 251);
+        return row;
+    }
+
+    // The SET that a row has sealed, or how the call fails, below 0.
+    int opened(List<Long> row) {
+        if (row.size() < 3) {
+            return -4;
+        }
+        if (row.get(0) != 1 || row.get(1) < 0 || row.get(1) > 16) {
+            return -9;
+        }
+        if (row.size() < row.get(1) + 3) {
+            return -4;
+        }
+        for (int set = 0; set < 1 << count(); set++) {
+            List<Long> seal = sealed(set);
+            if (seal.size() <= row.size() && seal.equals(row.subList(0, seal.size())) && holds(set)) {
+                return set;
+            }
+        }
+        return -9;
+    }
+
     // ---- ships
 
     record Cargo(int set, int to, int due, int ship) { }

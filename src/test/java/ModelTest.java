@@ -1,6 +1,6 @@
 import java.util.List;
 
-// Promises 9 to 47 for BOOKS and LOGS by draws, asked against the model.
+// Promises 9 to 49 for BOOKS and LOGS by draws, asked against the model.
 public final class ModelTest {
     private static final Check CHECK = new Check("ModelTest");
 
@@ -16,6 +16,7 @@ public final class ModelTest {
             askSets(x, model, maker);
             askOrders(x, model, maker);
             askShips(x, model, maker);
+            askSeals(x, model, maker);
         }
         for (int run = 0; run < 20000; run++) {
             askFaults(new Maker(1000 + run));
@@ -205,6 +206,41 @@ public final class ModelTest {
                 CHECK.due("has", x.has(k), sea.has[k]);
             }
         }
+    }
+
+    private static void askSeals(SwapBook x, Model model, Maker maker) {
+        if (model.count() > 8) {
+            return;
+        }
+        for (int i = 0; i < 10; i++) {
+            int raw = maker.below(1 << model.count());
+            int set = maker.below(4) == 0 ? raw : model.closed(raw);
+            List<Long> row = new java.util.ArrayList<>(model.sealed(set));
+            int length = Math.max(0, row.size() + maker.below(5) - 2);
+            int sort = 1 + maker.below(3);
+            x.tray(2, sort, length);
+            int due = length < row.size() ? 4 : model.holds(set) ? 0 : 9;
+            CHECK.due(x, "seal", x.seal(2, set), due == 0 ? row.size() : -1, due);
+            askOpen(x, model, row, length, sort);
+            for (int k = 0; k < 6; k++) {
+                List<Long> spoilt = new java.util.ArrayList<>(row);
+                for (int times = maker.below(3); times >= 0; times--) {
+                    spoilt.set(maker.below(row.size()), maker.below(24) - 3L);
+                }
+                askOpen(x, model, spoilt, length, sort);
+            }
+        }
+    }
+
+    private static void askOpen(SwapBook x, Model model, List<Long> row, int length, int sort) {
+        List<Long> laid = new java.util.ArrayList<>();
+        x.tray(2, sort, length);
+        for (int place = 0; place < length; place++) {
+            laid.add(place < row.size() ? row.get(place) : 0L);
+            x.write(2, place, laid.get(place));
+        }
+        int due = model.opened(laid);
+        CHECK.due(x, "open " + laid, x.open(2), Math.max(-1, due), due < 0 ? -due : 0);
     }
 
     private static boolean isAlike(int[] has, int islands) {

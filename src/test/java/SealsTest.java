@@ -84,10 +84,34 @@ public final class SealsTest {
         opened(x, -1, 9, 1, 1, 7, 9);
         opened(x, 3, 0, 1, 2, 0, 7, 10);
         opened(x, -1, 9, 1, 2, 0, 7, 261);
-        opened(x, -1, 4, 1, 1L << 32, 1);
-        opened(x, -1, 4, 1, Long.MAX_VALUE, 1);
-        opened(x, -1, 9, 1, Long.MIN_VALUE, 1);
         opened(x, -1, 9, 1, 7, 0, 7, 11, 18, 24, 25, 30, 123, 0);
+        askHeads(x);
+    }
+
+    // Fewer than three numbers are 4 whatever they are; from three on a row that does not begin as
+    // what is SEALED does is 9, however many numbers its second one asks for.
+    private static void askHeads(SwapBook x) {
+        opened(x, -1, 4, 0);
+        opened(x, -1, 4, 0, 1);
+        opened(x, -1, 4, 2, 99);
+        for (long head : new long[] {0, 2, -1, 257, 1L << 32 | 1, Long.MIN_VALUE | 1}) {
+            opened(x, -1, 9, head, 1, 0);
+            opened(x, -1, 9, head, 6, 0, 7);
+            opened(x, -1, 9, head, 99, 0);
+            opened(x, -1, 9, head, -1, 0);
+        }
+        opened(x, -1, 4, 1, 6, 0, 7, 11, 18, 24, 25);
+        opened(x, 63, 0, 1, 6, 0, 7, 11, 18, 24, 25, 92);
+        opened(x, -1, 4, 1, 16, 0);
+        opened(x, -1, 9, 1, 17, 0);
+        opened(x, -1, 9, 1, 1L << 32, 1);
+        opened(x, -1, 9, 1, Long.MAX_VALUE, 1);
+        opened(x, -1, 9, 1, Long.MIN_VALUE, 1);
+        SwapBook bare = new SwapBook();
+        opened(bare, -1, 9, 0, 1, 0);
+        opened(bare, -1, 4, 1, 1, 0);
+        opened(bare, -1, 9, 1, 1, 0, 2);
+        opened(bare, 0, 0, 1, 0, 1);
     }
 
     private static void askLarge() {
