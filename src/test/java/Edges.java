@@ -1,0 +1,159 @@
+import java.io.IOException;
+import java.lang.reflect.InvocationTargetException;
+import java.lang.reflect.Method;
+import java.nio.file.Files;
+import java.nio.file.Path;
+import java.util.Arrays;
+import java.util.List;
+import java.util.Set;
+import java.util.TreeSet;
+import java.util.function.Supplier;
+
+// Tests of boundary cases. Each begins with its promise's number and the words of the document that
+// it asks for, which must stand there: under the promise itself, or in the Terms.
+final class Edges {
+    private static final Path DOCUMENT = Path.of("../shared/DOC.md");
+    private static final Set<String> WITHOUT_STATUS = Set.of("status", "fault", "feed", "top", "bottom");
+
+    private final Check check;
+    private final String document;
+    private final Set<Integer> promises = new TreeSet<>();
+    private String edge = "";
+
+    Edges(String test) {
+        check = new Check(test);
+        document = readDocument();
+    }
+
+    private static String readDocument() {
+        try {
+            return Files.readString(DOCUMENT);
+        } catch (IOException e) {
+            return "";
+        }
+    }
+
+    SwapBook begin(int promise, String words) {
+        edge = "Promise " + promise + " \"" + words + "\": ";
+        promises.add(promise);
+        check.due(edge + "stands in the document", standsThere(promise, words), true);
+        return new SwapBook();
+    }
+
+    private boolean standsThere(int promise, String words) {
+        String terms = between("## Terms", "\n## ");
+        return terms.contains(words) || between("## Promise " + promise + ":", "\n## ").contains(words);
+    }
+
+    private String between(String head, String next) {
+        int from = document.indexOf(head);
+        int to = from < 0 ? -1 : document.indexOf(next, from);
+        return from < 0 || to < 0 ? "" : document.substring(from, to);
+    }
+
+    // ---- single calls, by their names, so that a wrong one can be told with what it was asked
+
+    private static long call(SwapBook x, String name, long... with) {
+        for (Method m : SwapBook.class.getDeclaredMethods()) {
+            if (m.getName().equals(name) && m.getParameterCount() == with.length) {
+                return invoke(x, m, with);
+            }
+        }
+        throw new IllegalArgumentException(name);
+    }
+
+    private static long invoke(SwapBook x, Method m, long... with) {
+        Object[] given = new Object[with.length];
+        for (int i = 0; i < with.length; i++) {
+            boolean wide = m.getParameterTypes()[i] == long.class;
+            given[i] = wide ? (Object) with[i] : (Object) Math.toIntExact(with[i]);
+        }
+        try {
+            Object got = m.invoke(x, given);
+            return got instanceof Boolean b ? (b ? 1 : 0) : ((Number) got).longValue();
+        } catch (IllegalAccessException | InvocationTargetException e) {
+            throw new IllegalStateException(m.getName() + Arrays.toString(with), e);
+        }
+    }
+
+    private static boolean givesBoolean(String name) {
+        return Arrays.stream(SwapBook.class.getDeclaredMethods())
+            .anyMatch(m -> m.getName().equals(name) && m.getReturnType() == boolean.class);
+    }
+
+    private String told(String name, long... with) {
+        return edge + name + Arrays.toString(with);
+    }
+
+    // The answer (true is 1), with STATUS 0 if the call has one.
+    void gives(SwapBook x, long want, String name, long... with) {
+        check.due(told(name, with), call(x, name, with), want);
+        if (!WITHOUT_STATUS.contains(name)) {
+            check.due(told(name, with) + " status", x.status(), 0);
+        }
+    }
+
+    void refuses(SwapBook x, int status, String name, long... with) {
+        check.due(told(name, with), call(x, name, with), givesBoolean(name) ? 0 : -1);
+        check.due(told(name, with) + " status", x.status(), status);
+    }
+
+    void due(String what, long got, long want) {
+        check.due(edge + what, got, want);
+    }
+
+    // ---- refused calls: besides the STATUS nothing may be otherwise than in a twin without the call
+
+    void refused(int promise, String words, int status, String name, long... with) {
+        refusedIn(World::full, promise, words, status, name, with);
+    }
+
+    void refusedIn(Supplier<SwapBook> maker, int promise, String words, int status, String name, long... with) {
+        begin(promise, words);
+        SwapBook x = maker.get();
+        SwapBook twin = maker.get();
+        refuses(x, status, name, with);
+        sameSight(told(name, with), World.sight(x), World.sight(twin));
+    }
+
+    void sameSight(String what, List<Long> got, List<Long> want) {
+        check.due(what + " changes nothing", got.equals(want), true);
+    }
+
+    // ---- texts
+
+    // The place of the FAULT is marked by a ^ in the text. The BOOK for a LOG is that of World.
+    void faulty(int promise, String words, int kind, String marked) {
+        SwapBook x = begin(promise, words);
+        boolean log = promise == 11;
+        if (log) {
+            Check.book(x, World.BOOK);
+        }
+        int place = marked.indexOf('^');
+        String text = marked.replace("^", "");
+        int answer = log ? Check.log(x, text) : Check.book(x, text);
+        check.due(x, edge + marked, answer, -1, 10);
+        check.due(edge + marked + " fault(0)", x.fault(0), kind);
+        check.due(edge + marked + " fault(1)", x.fault(1), place);
+    }
+
+    void taken(int promise, String words, int many, String text) {
+        SwapBook x = begin(promise, words);
+        boolean log = promise == 11;
+        if (log) {
+            Check.book(x, World.BOOK);
+        }
+        int answer = log ? Check.log(x, text) : Check.book(x, text);
+        check.due(x, edge + text, answer, many, 0);
+        check.due(edge + text + " fault(0)", x.fault(0), 0);
+        check.due(edge + text + " fault(1)", x.fault(1), -1);
+    }
+
+    // Each promise from the first to the last one must have had an edge of its own.
+    void end(int first, int last) {
+        for (int promise = first; promise <= last; promise++) {
+            check.due("an edge of promise " + promise, promises.contains(promise), true);
+        }
+        check.end();
+    }
+}

@@ -1,0 +1,126 @@
+import java.util.ArrayList;
+import java.util.List;
+
+// Objects with something in every part of them, and all that can be seen of one.
+final class World {
+    // a 0, b 1, c 2, d 3, e 4, f 5
+    static final String BOOK = "island ann;island bob;put a key 5 says 1;put b key 3 says 2;name c of a says 7;"
+        + "name d of a says 8;move e of b key 9;settle f of c not d;";
+    private static final int BLANKS = 0x20202020;
+
+    private World() {
+    }
+
+    static SwapBook full() {
+        SwapBook x = loaded();
+        Check.book(x, "put a key ?");
+        Check.feed(x, "put z key 1 says 1;");
+        return x;
+    }
+
+    // As full, but for a FAULT and what is on the tape.
+    static SwapBook loaded() {
+        SwapBook x = new SwapBook();
+        Check.book(x, BOOK);
+        x.mark();
+        Check.log(x, "make e at bob; ship ann to bob late 2 twice; wait 1; draw 9; when has ann a; wait 1; end;");
+        x.give(0, 7);
+        x.ordered(7, 1);
+        x.mark();
+        x.give(1, 2);
+        x.sail(3);
+        x.ordered(23, 2);
+        x.ahead(7, 0, 1);
+        fillTrays(x);
+        return x;
+    }
+
+    // TRAY 0 is SEALED, 1 of 8 bits, 2 of 64 bits, 3 MISSING.
+    private static void fillTrays(SwapBook x) {
+        x.tray(0, 1, 6);
+        x.seal(0, 7);
+        x.tray(1, 0, 9);
+        x.tray(2, 3, 4);
+        for (int place = 0; place < 4; place++) {
+            x.write(1, place, 3 - place);
+            x.write(2, place, -7 - place);
+        }
+    }
+
+    static SwapBook marked() {
+        SwapBook x = full();
+        x.mark();
+        return x;
+    }
+
+    // No LOG, no MARK, an empty ORDER.
+    static SwapBook plain() {
+        SwapBook x = new SwapBook();
+        Check.book(x, BOOK);
+        fillTrays(x);
+        return x;
+    }
+
+    // The object is of no use behind this: what can be seen only by changing it comes last.
+    static List<Long> sight(SwapBook x) {
+        List<Long> seen = new ArrayList<>();
+        seen.add(x.top());
+        seen.add(x.bottom());
+        seen.add((long) x.fault(0));
+        seen.add((long) x.fault(1));
+        for (int what = 0; what < 5; what++) {
+            seen.add((long) x.sailed(what));
+        }
+        seen.addAll(sightOfTrays(x));
+        seen.addAll(sightOfMarks(x));
+        seeTape(x, seen);
+        return seen;
+    }
+
+    static List<Long> sightOfTrays(SwapBook x) {
+        List<Long> seen = new ArrayList<>();
+        for (int tray = 0; tray < 4; tray++) {
+            for (int place = 0; place < 61; place += place < 9 ? 1 : 10) {
+                seen.add(x.read(tray, place));
+                seen.add((long) x.status());
+            }
+        }
+        return seen;
+    }
+
+    // The BOOK, what ISLANDS have, the ORDER and the LOG as they are, and as each MARK keeps them.
+    static List<Long> sightOfMarks(SwapBook x) {
+        List<Long> seen = new ArrayList<>();
+        seeState(x, seen);
+        for (int marks = 0; marks < 4; marks++) {
+            seen.add((long) x.back());
+            seeState(x, seen);
+        }
+        return seen;
+    }
+
+    private static void seeState(SwapBook x, List<Long> seen) {
+        seen.add((long) x.alone());
+        for (int what = 0; what < 4; what++) {
+            seen.add((long) x.many(what));
+            seen.add((long) x.has(what));
+        }
+        for (int k = 0; k < 7; k++) {
+            seen.add((long) x.change(k, 1));
+            seen.add((long) x.orderAt(k));
+        }
+        seen.add((long) x.sail(5));
+        seen.add((long) x.sailed(0));
+        seen.add((long) x.sailed(2));
+        seen.add((long) x.has(1));
+    }
+
+    private static void seeTape(SwapBook x, List<Long> seen) {
+        int length = x.feed(BLANKS, BLANKS, BLANKS, BLANKS, BLANKS);
+        seen.add((long) length);
+        seen.add((long) x.book(length < 0 ? 900 : length));
+        seen.add((long) x.change(0, 1));
+        seen.add((long) x.fault(0));
+        seen.add((long) x.fault(1));
+    }
+}
