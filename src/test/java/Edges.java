@@ -10,7 +10,7 @@ import java.util.TreeSet;
 import java.util.function.Supplier;
 
 // Tests of boundary cases. Each begins with its promise's number and the words of the document that
-// it asks for, which must stand there: under the promise itself, or in the Terms.
+// it asks for, which must stand there: under the promise itself, in the Terms, or ahead of them.
 final class Edges {
     private static final Path DOCUMENT = Path.of("../shared/DOC.md");
     private static final Set<String> WITHOUT_STATUS = Set.of("status", "fault", "feed", "top", "bottom");
@@ -40,9 +40,15 @@ final class Edges {
         return new SwapBook();
     }
 
+    SwapBook begin(int promise, String words, String book) {
+        SwapBook x = begin(promise, words);
+        Check.book(x, book);
+        return x;
+    }
+
     private boolean standsThere(int promise, String words) {
-        String terms = between("## Terms", "\n## ");
-        return terms.contains(words) || between("## Promise " + promise + ":", "\n## ").contains(words);
+        String[] heads = {"## What it is", "## Terms", "## Promise " + promise + ":"};
+        return Arrays.stream(heads).anyMatch(head -> between(head, "\n## ").contains(words));
     }
 
     private String between(String head, String next) {
@@ -90,6 +96,12 @@ final class Edges {
         check.due(told(name, with), call(x, name, with), want);
         if (!WITHOUT_STATUS.contains(name)) {
             check.due(told(name, with) + " status", x.status(), 0);
+        }
+    }
+
+    void givesRow(SwapBook x, int tray, long... row) {
+        for (int place = 0; place < row.length; place++) {
+            gives(x, row[place], "read", tray, place);
         }
     }
 

@@ -4,8 +4,6 @@ public final class EdgesOfBooksTest {
     private static final String A = "put a key 5 says 1;";
     // a 0, b 1, c 2, t 3, s 4
     private static final String FIVE = A + "name b of a says 2;move c of b key 3;take t of a;settle s of b not t;";
-    private static final String[] KEYWORDS = ("island put key says take of name move settle not after make at ship to late "
-        + "twice out pick when has quiet day draw wait loop end stop").split(" ");
     private static final int BLANKS = 0x20202020;
 
     public static void main(String[] args) {
@@ -32,10 +30,11 @@ public final class EdgesOfBooksTest {
         EDGES.end(9, 10);
     }
 
-    private static String puts(int many) {
+    // Names of 1 to 8 times the same letter: all of them are others.
+    private static String putsByLength(char letter) {
         StringBuilder text = new StringBuilder();
-        for (int i = 0; i < many; i++) {
-            text.append("put ").append((char) ('a' + i)).append(" key 1 says 1;");
+        for (int length = 1; length <= 8; length++) {
+            text.append("put ").append(String.valueOf(letter).repeat(length)).append(" key 1 says 1;");
         }
         return text.toString();
     }
@@ -146,7 +145,7 @@ public final class EdgesOfBooksTest {
         EDGES.gives(x, 0, "number");
         EDGES.refuses(x, 8, "sail", 0);
         x = EDGES.begin(10, "A BOOK that is taken is there in place of that ahead");
-        Check.book(x, puts(16) + "island w;island x;island y;island z;");
+        Check.book(x, World.puts(16) + "island w;island x;island y;island z;");
         Check.feed(x, "put q key 9 says 8;");
         EDGES.gives(x, 1, "book", 19);
         EDGES.gives(x, 1, "many", 0);
@@ -182,20 +181,23 @@ public final class EdgesOfBooksTest {
         EDGES.faulty(10, "BOOK: {PART}.", 2, A + "^;");
         EDGES.taken(10, "[AFTER]", 2, A + "put b key 1 says 1 after a;");
         EDGES.faulty(10, "AFTER: after NAME {NAME}.", 2, A + "take b of a after ^;");
-        EDGES.taken(10, "AFTER: after NAME {NAME}.", 16, puts(15) + "take p of a after b c d e f g h i j k l m n o;");
-        EDGES.taken(10, "AFTER: after NAME {NAME}.", 16, puts(15) + "put p key 1 says 1 after o n m l k j i h g f e d c b a;");
+        EDGES.taken(10, "AFTER: after NAME {NAME}.", 16, World.puts(15) + "take p of a after b c d e f g h i j k l m n o;");
+        EDGES.taken(10, "AFTER: after NAME {NAME}.", 16, World.puts(15) + "put p key 1 says 1 after o n m l k j i h g f e d c b a;");
         EDGES.faulty(10, "AFTER: after NAME {NAME}.", 5,
-            puts(15) + "put p key 1 says 1 after o n m l k j i h g f e d c b a ^o;");
+            World.puts(15) + "put p key 1 says 1 after o n m l k j i h g f e d c b a ^o;");
     }
 
     private static void askNames() {
         String words = "NAME: a WORD of 1 to 8 letters that is none of";
         EDGES.taken(10, words, 3, "island a; put abcdefgh key 1 says 1; take abcdefgi of abcdefgh; put bbcdefgh key 1 says 1;");
+        for (char letter : new char[] {'a', 'b', 'y', 'z'}) {
+            EDGES.taken(10, words, 8, putsByLength(letter));
+        }
         EDGES.faulty(10, words, 2, "island ^abcdefghi;");
         EDGES.faulty(10, words, 2, "put abcdefgh key 1 says 1; take b of ^abcdefghi;");
         EDGES.faulty(10, "a WORD of 9 letters and more where a NAME must stand", 2, "put ^abcdefghijklmnopqrstuvwxyz key 1 says 1;");
         EDGES.faulty(10, "a WORD of 9 letters and more where a NAME must stand", 2, A + "put b key 1 says 1 after ^abcdefghi;");
-        for (String word : KEYWORDS) {
+        for (String word : World.KEYWORDS) {
             EDGES.faulty(10, words, 2, "island ^" + word + ";");
             EDGES.faulty(10, words, 2, "put ^" + word + " key 1 says 1;");
             EDGES.faulty(10, words, 2, A + "take b of ^" + word + ";");
@@ -215,8 +217,8 @@ public final class EdgesOfBooksTest {
             EDGES.faulty(10, "3 a new NAME that is taken", 3, "island i;" + FIVE + kind + " ^s");
             EDGES.faulty(10, "3 a new NAME that is taken", 3, "island i;" + FIVE + kind + " ^i");
         }
-        EDGES.faulty(10, "3 a new NAME that is taken", 3, "island w;island x;island y;island z;" + puts(15) + "put ^z");
-        EDGES.faulty(10, "3 a new NAME that is taken", 3, puts(15) + "put ^o");
+        EDGES.faulty(10, "3 a new NAME that is taken", 3, "island w;island x;island y;island z;" + World.puts(15) + "put ^z");
+        EDGES.faulty(10, "3 a new NAME that is taken", 3, World.puts(15) + "put ^o");
     }
 
     private static void askLimits() {
@@ -225,14 +227,14 @@ public final class EdgesOfBooksTest {
         EDGES.faulty(10, "6 a fifth island, a 17th CHANGE (at that WORD).", 6, four + "^island v;");
         EDGES.faulty(10, "6 a fifth island, a 17th CHANGE (at that WORD).", 6, four + "^island w;");
         EDGES.faulty(10, "6 a fifth island, a 17th CHANGE (at that WORD).", 6, four + "^island");
-        EDGES.taken(10, "CHANGES, at most 16, numbered as they stand", 16, four + puts(16));
-        EDGES.taken(10, "CHANGES, at most 16, numbered as they stand", 16, puts(16) + four);
+        EDGES.taken(10, "CHANGES, at most 16, numbered as they stand", 16, four + World.puts(16));
+        EDGES.taken(10, "CHANGES, at most 16, numbered as they stand", 16, World.puts(16) + four);
         for (String kind : new String[] {"put", "take", "name", "move", "settle"}) {
-            EDGES.faulty(10, "6 a fifth island, a 17th CHANGE (at that WORD).", 6, puts(16) + "^" + kind + " q");
-            EDGES.faulty(10, "6 a fifth island, a 17th CHANGE (at that WORD).", 6, puts(16) + "^" + kind);
+            EDGES.faulty(10, "6 a fifth island, a 17th CHANGE (at that WORD).", 6, World.puts(16) + "^" + kind + " q");
+            EDGES.faulty(10, "6 a fifth island, a 17th CHANGE (at that WORD).", 6, World.puts(16) + "^" + kind);
         }
-        EDGES.faulty(10, "6 a fifth island, a 17th CHANGE (at that WORD).", 2, puts(16) + "^a");
-        EDGES.faulty(10, "6 a fifth island, a 17th CHANGE (at that WORD).", 1, puts(16) + "^A");
+        EDGES.faulty(10, "6 a fifth island, a 17th CHANGE (at that WORD).", 2, World.puts(16) + "^a");
+        EDGES.faulty(10, "6 a fifth island, a 17th CHANGE (at that WORD).", 1, World.puts(16) + "^A");
     }
 
     private static void askNumbers() {
@@ -261,7 +263,7 @@ public final class EdgesOfBooksTest {
         EDGES.faulty(10, words, 5, FIVE + "take e of ^t after x");
         EDGES.faulty(10, words, 3, FIVE + "take e of ^x after a a");
         EDGES.faulty(10, words, 2, FIVE + "take e of ^take");
-        EDGES.faulty(10, words, 6, puts(16) + "^put ? ?");
+        EDGES.faulty(10, words, 6, World.puts(16) + "^put ? ?");
         EDGES.faulty(10, words, 1, "^12345");
         EDGES.faulty(10, words, 1, "put ^12345");
         EDGES.faulty(10, words, 2, "put ^1234");

@@ -19,29 +19,6 @@ public final class EdgesOfHangsTest {
         EDGES.end(15, 21);
     }
 
-    private static String puts(int many) {
-        StringBuilder text = new StringBuilder();
-        for (int i = 0; i < many; i++) {
-            text.append("put ").append((char) ('a' + i)).append(" key 1 says 1;");
-        }
-        return text.toString();
-    }
-
-    // a 0, b 1 of a, c 2 of b, .. p 15 of o
-    private static String chain() {
-        StringBuilder text = new StringBuilder("put a key 1 says 1;");
-        for (int i = 1; i < 16; i++) {
-            text.append("name ").append((char) ('a' + i)).append(" of ").append((char) ('a' + i - 1)).append(" says 1;");
-        }
-        return text.toString();
-    }
-
-    private static SwapBook begin(int promise, String words, String text) {
-        SwapBook x = EDGES.begin(promise, words);
-        Check.book(x, text);
-        return x;
-    }
-
     private static void askHangs() {
         for (int change : NO_CHANGES) {
             EDGES.refused(15, NO_CHANGE, 2, "hangs", change, 0);
@@ -50,7 +27,7 @@ public final class EdgesOfHangsTest {
         for (int what : new int[] {-1, 3, Integer.MAX_VALUE, Integer.MIN_VALUE}) {
             EDGES.refused(15, "(2; 5)", 5, "hangs", 0, what);
         }
-        SwapBook x = begin(15, "A CHANGE HANGS ON: that OF which it is (a SETTLE: both), all told AFTER (told ahead), and all that those hang on.",
+        SwapBook x = EDGES.begin(15, "A CHANGE HANGS ON: that OF which it is (a SETTLE: both), all told AFTER (told ahead), and all that those hang on.",
             "put a key 1 says 1; put b key 1 says 1; name c of a says 1; name d of a says 2; settle e of c not d after b;"
             + "put f key 1 says 1 after e; put g key 1 says 1;");
         int[][] due = {{0, 0, 60}, {0, 0, 48}, {1, 1, 48}, {1, 1, 48}, {14, 15, 32}, {16, 31, 0}, {0, 0, 0}};
@@ -59,7 +36,7 @@ public final class EdgesOfHangsTest {
                 EDGES.gives(x, due[change][what], "hangs", change, what);
             }
         }
-        x = begin(15, "It NEEDS directly the first two kinds.", chain());
+        x = EDGES.begin(15, "It NEEDS directly the first two kinds.", World.chain());
         for (int change = 0; change < 16; change++) {
             EDGES.gives(x, change == 0 ? 0 : 1 << change - 1, "hangs", change, 0);
             EDGES.gives(x, (1 << change) - 1, "hangs", change, 1);
@@ -81,7 +58,7 @@ public final class EdgesOfHangsTest {
     }
 
     private static void askHolds() {
-        SwapBook x = begin(16, "HOLDS, if with each one all that it hangs on is in it", chain());
+        SwapBook x = EDGES.begin(16, "HOLDS, if with each one all that it hangs on is in it", World.chain());
         for (int many = 0; many <= 16; many++) {
             EDGES.gives(x, 1, "holds", (1 << many) - 1);
         }
@@ -96,21 +73,21 @@ public final class EdgesOfHangsTest {
     }
 
     private static void askFullSet() {
-        SwapBook x = begin(16, "A SET of CHANGES (1 for CHANGE 0, 2 for CHANGE 1 ..)", puts(16));
+        SwapBook x = EDGES.begin(16, "A SET of CHANGES (1 for CHANGE 0, 2 for CHANGE 1 ..)", World.puts(16));
         EDGES.gives(x, 1, "holds", 65535);
         EDGES.refuses(x, 2, "holds", 65536);
         EDGES.refuses(x, 2, "holds", 131071);
         EDGES.gives(x, 32768, "out", 32768, 14);
         EDGES.gives(x, 0, "out", 32768, 15);
         EDGES.gives(x, 65535, "pick", 32767, 15);
-        x = begin(16, NO_SET, puts(1));
+        x = EDGES.begin(16, NO_SET, World.puts(1));
         EDGES.gives(x, 1, "holds", 1);
         EDGES.refuses(x, 2, "holds", 2);
         EDGES.refuses(x, 2, "holds", 3);
     }
 
     private static void askLacks() {
-        SwapBook x = begin(17, "What a SET lacks to HOLD: the least set", chain());
+        SwapBook x = EDGES.begin(17, "What a SET lacks to HOLD: the least set", World.chain());
         EDGES.gives(x, 0, "lacks", 0);
         EDGES.gives(x, 0, "lacks", 1);
         EDGES.gives(x, 0, "lacks", 65535);
@@ -123,7 +100,7 @@ public final class EdgesOfHangsTest {
     }
 
     private static void askOut() {
-        SwapBook x = begin(18, "OUT: a SET without a CHANGE and all in it that hang on it.", chain());
+        SwapBook x = EDGES.begin(18, "OUT: a SET without a CHANGE and all in it that hang on it.", World.chain());
         EDGES.gives(x, 0, "out", 0, 0);
         EDGES.gives(x, 0, "out", 65535, 0);
         EDGES.gives(x, 32767, "out", 65535, 15);
@@ -135,7 +112,7 @@ public final class EdgesOfHangsTest {
     }
 
     private static void askPick() {
-        SwapBook x = begin(19, "PICK: a SET and a CHANGE with all that it hangs on.", chain());
+        SwapBook x = EDGES.begin(19, "PICK: a SET and a CHANGE with all that it hangs on.", World.chain());
         EDGES.gives(x, 1, "pick", 0, 0);
         EDGES.gives(x, 65535, "pick", 0, 15);
         EDGES.gives(x, 65535, "pick", 65535, 15);
@@ -146,24 +123,24 @@ public final class EdgesOfHangsTest {
 
     private static void askHeaviest() {
         EDGES.refusedIn(SwapBook::new, 20, "HEAVIEST (8: no CHANGE).", 8, "heaviest");
-        SwapBook x = begin(20, "HEAVIEST (8: no CHANGE).", "island i;");
+        SwapBook x = EDGES.begin(20, "HEAVIEST (8: no CHANGE).", "island i;");
         EDGES.refuses(x, 8, "heaviest");
         String words = "HEAVIEST: the CHANGE on which most others hang, of several the first.";
-        EDGES.gives(begin(20, words, puts(1)), 0, "heaviest");
-        EDGES.gives(begin(20, words, puts(16)), 0, "heaviest");
-        EDGES.gives(begin(20, words, chain()), 0, "heaviest");
-        EDGES.gives(begin(20, words, puts(3) + "take d of c; take e of b;"), 1, "heaviest");
-        EDGES.gives(begin(20, words, puts(15) + "take p of o;"), 14, "heaviest");
-        EDGES.gives(begin(20, words, puts(3) + "take d of a; take e of c; take f of c;"), 2, "heaviest");
-        EDGES.gives(begin(20, words, puts(2) + "take c of b after a;"), 0, "heaviest");
+        EDGES.gives(EDGES.begin(20, words, World.puts(1)), 0, "heaviest");
+        EDGES.gives(EDGES.begin(20, words, World.puts(16)), 0, "heaviest");
+        EDGES.gives(EDGES.begin(20, words, World.chain()), 0, "heaviest");
+        EDGES.gives(EDGES.begin(20, words, World.puts(3) + "take d of c; take e of b;"), 1, "heaviest");
+        EDGES.gives(EDGES.begin(20, words, World.puts(15) + "take p of o;"), 14, "heaviest");
+        EDGES.gives(EDGES.begin(20, words, World.puts(3) + "take d of a; take e of c; take f of c;"), 2, "heaviest");
+        EDGES.gives(EDGES.begin(20, words, World.puts(2) + "take c of b after a;"), 0, "heaviest");
     }
 
     private static void askAlone() {
         String words = "ALONE: PUTS on which nothing hangs.";
         EDGES.gives(EDGES.begin(21, words), 0, "alone");
-        EDGES.gives(begin(21, words, chain()), 0, "alone");
-        EDGES.gives(begin(21, words, puts(16)), 65535, "alone");
-        EDGES.gives(begin(21, words, puts(2) + "take c of a;"), 2, "alone");
-        EDGES.gives(begin(21, words, puts(2) + "put d key 1 says 1 after a;"), 6, "alone");
+        EDGES.gives(EDGES.begin(21, words, World.chain()), 0, "alone");
+        EDGES.gives(EDGES.begin(21, words, World.puts(16)), 65535, "alone");
+        EDGES.gives(EDGES.begin(21, words, World.puts(2) + "take c of a;"), 2, "alone");
+        EDGES.gives(EDGES.begin(21, words, World.puts(2) + "put d key 1 says 1 after a;"), 6, "alone");
     }
 }

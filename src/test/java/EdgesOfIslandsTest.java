@@ -30,7 +30,7 @@ public final class EdgesOfIslandsTest {
         EDGES.end(43, 47);
     }
 
-    private static SwapBook begin(int promise, String words) {
+    private static SwapBook beginIsles(int promise, String words) {
         SwapBook x = EDGES.begin(promise, words);
         Check.book(x, TEXT);
         x.give(0, 1);
@@ -71,7 +71,7 @@ public final class EdgesOfIslandsTest {
         }
         EDGES.refused(44, "(2; 9)", 9, "give", 0, 4);
         EDGES.refused(44, "(2; 9)", 9, "give", 1, 62);
-        SwapBook x = begin(44, "It has this SET");
+        SwapBook x = beginIsles(44, "It has this SET");
         EDGES.gives(x, 1, "give", 2, 31);
         EDGES.gives(x, 31, "has", 2);
         EDGES.gives(x, 1, "give", 2, 0);
@@ -80,7 +80,7 @@ public final class EdgesOfIslandsTest {
     }
 
     private static void askMake() {
-        SwapBook x = begin(45, "make: an ISLAND gets a CHANGE, if it has all that it hangs on (else MISSED).");
+        SwapBook x = beginIsles(45, "make: an ISLAND gets a CHANGE, if it has all that it hangs on (else MISSED).");
         sail(x, "make c at bob;", 0, 1, 0, 1, 0, 0, 0, 1, 0, 0);
         sail(x, "make e at ann;", 0, 1, 0, 1, 0, 0, 0, 1, 0, 0);
         sail(x, "make c at ann;", 0, 1, 0, 0, 0, 0, 0, 5, 0, 0);
@@ -89,7 +89,7 @@ public final class EdgesOfIslandsTest {
     }
 
     private static void askOut() {
-        SwapBook x = begin(45, "out: OUT at an ISLAND (nothing, if it has not that).");
+        SwapBook x = beginIsles(45, "out: OUT at an ISLAND (nothing, if it has not that).");
         sail(x, "out b at ann;", 0, 1, 0, 0, 0, 0, 0, 1, 0, 0);
         sail(x, "out a at bob;", 0, 1, 0, 0, 0, 0, 0, 1, 0, 0);
         x.give(0, 31);
@@ -98,7 +98,7 @@ public final class EdgesOfIslandsTest {
     }
 
     private static void askPick() {
-        SwapBook x = begin(45, "pick: it gets a CHANGE with all that it hangs on, if any ISLAND has it (else MISSED).");
+        SwapBook x = beginIsles(45, "pick: it gets a CHANGE with all that it hangs on, if any ISLAND has it (else MISSED).");
         x.give(0, 0);
         x.give(2, 21);
         sail(x, "pick b at ann;", 0, 1, 0, 1, 0, 0, 0, 0, 0, 21);
@@ -106,32 +106,35 @@ public final class EdgesOfIslandsTest {
         sail(x, "pick e at cid;", 0, 1, 0, 0, 0, 0, 0, 21, 0, 21);
         sail(x, "pick c at bob;", 0, 1, 0, 0, 0, 0, 0, 21, 5, 21);
         sail(x, "out a at ann; out a at cid; pick e at bob;", 0, 3, 0, 1, 0, 0, 0, 0, 5, 0);
+        // The first ISLAND alone has it, or the last one alone.
+        sail(x, "out a at bob; make a at ann; pick a at bob;", 0, 3, 0, 0, 0, 0, 0, 1, 1, 0);
+        sail(x, "out a at ann; out a at bob; make b at cid; pick b at ann;", 0, 4, 0, 0, 0, 0, 0, 2, 0, 2);
     }
 
     private static void askSameIsland() {
-        SwapBook x = begin(45, "is on its way to another one (the same: MISSED)");
+        SwapBook x = beginIsles(45, "is on its way to another one (the same: MISSED)");
         sail(x, "ship ann to ann;", 0, 1, 0, 1, 0, 0, 0, 1, 0, 0);
         sail(x, "ship ann to ann late 1 twice; wait 9;", 0, 2, 9, 1, 0, 0, 0, 1, 0, 0);
     }
 
     private static void askLate() {
-        SwapBook x = begin(45, "DAYS later at the beginning of that DAY (0: at once)");
+        SwapBook x = beginIsles(45, "DAYS later at the beginning of that DAY (0: at once)");
         sail(x, "ship ann to bob; out a at ann;", 0, 2, 0, 0, 1, 0, 0, 0, 1, 0);
         sail(x, "ship bob to cid late 0; when has cid a; make b at bob; end;", 0, 3, 0, 0, 1, 0, 0, 0, 3, 1);
-        x = begin(45, "DAYS later at the beginning of that DAY (0: at once)");
+        x = beginIsles(45, "DAYS later at the beginning of that DAY (0: at once)");
         sail(x, "ship ann to bob late 1;", 0, 1, 0, 0, 0, 0, 1, 1, 0, 0);
         sail(x, "ship ann to bob late 1; wait 1; when has bob a; make b at bob; end;", 0, 4, 1, 0, 1, 0, 0, 1, 3, 0);
         sail(x, "ship ann to cid late 9; wait 8; when has cid a; stop; end; wait 1; when has cid a; stop; end; wait 1;", 0, 6,
             9, 0, 1, 0, 0, 1, 3, 1);
         // An ISLAND without anything ships nothing, but it is a cargo all the same.
-        x = begin(45, "what an ISLAND has now is on its way to another one");
+        x = beginIsles(45, "what an ISLAND has now is on its way to another one");
         sail(x, "ship bob to cid; ship bob to cid late 1;", 0, 2, 0, 0, 1, 0, 1, 1, 0, 0);
         sail(x, "ship ann to bob late 1; make b at ann; wait 1;", 0, 3, 1, 0, 1, 0, 0, 3, 1, 0);
         sail(x, "ship bob to ann late 1; out b at ann; wait 1;", 0, 3, 1, 0, 1, 0, 0, 1, 1, 0);
     }
 
     private static void askTwice() {
-        SwapBook x = begin(45, "twice: once more a DAY later.");
+        SwapBook x = beginIsles(45, "twice: once more a DAY later.");
         sail(x, "ship ann to bob twice;", 0, 1, 0, 0, 1, 0, 1, 1, 1, 0);
         sail(x, "ship ann to bob twice; out a at bob; wait 1;", 0, 3, 1, 0, 2, 0, 0, 1, 1, 0);
         sail(x, "ship ann to cid late 9 twice; wait 9; out a at cid;", 0, 3, 9, 0, 1, 0, 1, 1, 1, 0);
@@ -140,7 +143,7 @@ public final class EdgesOfIslandsTest {
 
     private static void askCargoes() {
         String words = "At most 20 cargoes are on their way at one time (more: none of them sets out, MISSED).";
-        SwapBook x = begin(45, words);
+        SwapBook x = beginIsles(45, words);
         sail(x, "loop 20; ship ann to bob late 1; end;", 0, 21, 0, 0, 0, 0, 20, 1, 0, 0);
         sail(x, "loop 21; ship ann to bob late 1; end;", 0, 22, 0, 1, 0, 0, 20, 1, 0, 0);
         sail(x, "loop 10; ship ann to bob late 1 twice; end;", 0, 11, 0, 0, 0, 0, 20, 1, 0, 0);
@@ -152,7 +155,7 @@ public final class EdgesOfIslandsTest {
         sail(x, "loop 20; ship ann to bob late 1; end; wait 1; loop 20; ship ann to bob late 1; end;", 0, 43, 1, 0, 20, 0, 20);
         sail(x, "loop 20; ship ann to bob late 1; end; draw 16; ship ann to cid late 1; wait 1;", 0, 24, 1, 0, 20, 1, 0, 1, 1, 1);
         // What comes at once is never on its way.
-        x = begin(45, words);
+        x = beginIsles(45, words);
         sail(x, "loop 20; ship ann to bob late 1; end; ship ann to cid;", 0, 22, 0, 0, 1, 0, 20, 1, 0, 1);
         sail(x, "loop 21; ship ann to bob; end;", 0, 22, 0, 0, 21, 0, 0, 1, 1, 1);
     }
@@ -160,14 +163,14 @@ public final class EdgesOfIslandsTest {
     private static void askDraws() {
         String words = "draw n (0 to 16): a draw by 16; less than that";
         // Of the seed 0 the draws are 0, 6; of the seed 9999, far above 65,536 in between, 3.
-        SwapBook x = begin(45, words);
+        SwapBook x = beginIsles(45, words);
         sail(x, "ship ann to bob late 1; draw 0;", 0, 2, 0, 0, 0, 0, 1);
         sail(x, "ship ann to bob late 1; draw 1;", 0, 2, 0, 0, 0, 1, 0);
         sail(x, "draw 0; ship ann to bob late 1; draw 6;", 0, 3, 0, 0, 0, 0, 1);
         sail(x, "draw 0; ship ann to bob late 1; draw 7;", 0, 3, 0, 0, 0, 1, 0);
         sail(x, "ship ann to bob late 1; draw 3;", 9999, 2, 0, 0, 0, 0, 1);
         sail(x, "ship ann to bob late 1; draw 4;", 9999, 2, 0, 0, 0, 1, 0);
-        x = begin(45, "becomes what is left of s times 2,749 and 9,733 by 65,536");
+        x = beginIsles(45, "becomes what is left of s times 2,749 and 9,733 by 65,536");
         for (int seed = 0; seed < 10000; seed += 1111) {
             int s = seed;
             for (int draws = 1; draws < 4; draws++) {
@@ -177,9 +180,9 @@ public final class EdgesOfIslandsTest {
                 sail(x, log + drawn + ";", seed, draws + 1, 0, 0, 0, 0, 1);
                 sail(x, log + (drawn + 1) + ";", seed, draws + 1, 0, 0, 0, 1, 0);
             }
-            x = begin(45, "becomes what is left of s times 2,749 and 9,733 by 65,536");
+            x = beginIsles(45, "becomes what is left of s times 2,749 and 9,733 by 65,536");
         }
-        x = begin(45, "draw n (0 to 16)");
+        x = beginIsles(45, "draw n (0 to 16)");
         for (int seed = 0; seed < 16; seed++) {
             sail(x, "ship ann to bob late 1; draw 16;", seed, 2, 0, 0, 0, 1, 0);
             sail(x, "ship ann to bob late 1; draw 0;", seed, 2, 0, 0, 0, 0, 1);
@@ -187,7 +190,7 @@ public final class EdgesOfIslandsTest {
     }
 
     private static void askLatestShip() {
-        SwapBook x = begin(45, "of those on their way that or those that set out latest (by one ship) are lost");
+        SwapBook x = beginIsles(45, "of those on their way that or those that set out latest (by one ship) are lost");
         sail(x, "draw 16;", 0, 1, 0, 0, 0, 0, 0, 1, 0, 0);
         sail(x, "ship ann to bob; draw 16;", 0, 2, 0, 0, 1, 0, 0, 1, 1, 0);
         sail(x, "ship ann to bob late 1; ship ann to cid late 9 twice; draw 16;", 0, 3, 0, 0, 0, 2, 1);
@@ -203,23 +206,31 @@ public final class EdgesOfIslandsTest {
     }
 
     private static void askDays() {
-        SwapBook x = begin(45, "wait n (1 to 99): so many DAYS: in each what is due comes, as it set out.");
+        SwapBook x = beginIsles(45, "wait n (1 to 99): so many DAYS: in each what is due comes, as it set out.");
         sail(x, "wait 1;", 0, 1, 1);
         sail(x, "wait 99;", 0, 1, 99);
         sail(x, "wait 99; wait 99;", 0, 2, 198);
         sail(x, "ship ann to bob late 1; ship ann to cid late 2; wait 99;", 0, 3, 99, 0, 2, 0, 0, 1, 1, 1);
-        x = begin(45, "from what ISLANDS have now, DAY 0; behind it they have what they have then (what is on its way is lost)");
+        // Those that set out later come later, with what they carry, to where they go.
+        x = beginIsles(45, "in each what is due comes, as it set out");
+        x.give(1, 2);
+        sail(x, "ship ann to cid late 1; ship bob to ann late 3; wait 1; out a at cid; wait 1; when has ann b; stop; end;", 0, 6,
+            2, 0, 1, 0, 1, 1, 2, 0);
+        sail(x, "ship ann to cid late 1; ship bob to ann late 3; wait 1; out a at cid; wait 2; when has ann b; stop; end;", 0, 7,
+            3, 0, 2, 0, 0, 3, 2, 0);
+        sail(x, "ship ann to bob late 1; ship ann to bob late 5; ship ann to bob late 5 twice; wait 1; draw 16;", 0, 5, 1, 0, 1, 2, 1);
+        x = beginIsles(45, "from what ISLANDS have now, DAY 0; behind it they have what they have then (what is on its way is lost)");
         sail(x, "ship ann to bob late 1; when day 1; stop; end;", 0, 2, 0, 0, 0, 0, 1, 1, 0, 0);
         sail(x, "wait 9;", 0, 1, 9, 0, 0, 0, 0, 1, 0, 0);
     }
 
     private static void askTests() {
-        SwapBook x = begin(45, "day n (0 to 999): it is DAY n or later");
+        SwapBook x = beginIsles(45, "day n (0 to 999): it is DAY n or later");
         sail(x, "when day 0; make b at bob; end;", 0, 2, 0, 0, 0, 0, 0, 1, 2, 0);
         sail(x, "when day 1; make b at cid; end;", 0, 1, 0, 0, 0, 0, 0, 1, 2, 0);
         sail(x, "wait 5; when day 5; make b at cid; end; when day 6; make a at cid; end;", 0, 4, 5, 0, 0, 0, 0, 1, 2, 2);
         sail(x, "loop 10; wait 99; end; wait 9; when day 999; wait 1; end; when day 999; wait 1; end;", 0, 16, 1001);
-        x = begin(45, "when has: it has it; quiet: what it has is QUIET");
+        x = beginIsles(45, "when has: it has it; quiet: what it has is QUIET");
         sail(x, "when has bob a; stop; end; when has ann b; stop; end; when has ann a; wait 1; end;", 0, 4, 1);
         sail(x, "when quiet bob; wait 1; end; when quiet ann; wait 1; end;", 0, 4, 2);
         x.give(0, 0b1101);
@@ -227,19 +238,19 @@ public final class EdgesOfIslandsTest {
     }
 
     private static void askLoops() {
-        SwapBook x = begin(45, "loop n (1 to 99): as often.");
+        SwapBook x = beginIsles(45, "loop n (1 to 99): as often.");
         sail(x, "loop 1; wait 1; end;", 0, 2, 1);
         sail(x, "loop 99; wait 1; end;", 0, 100, 99);
         sail(x, "loop 99; end;", 0, 1, 0);
         sail(x, "loop 3; loop 2; wait 1; end; end;", 0, 1 + 3 * 3, 6);
         sail(x, "loop 2; loop 2; loop 2; wait 1; end; end; end; wait 10;", 0, 1 + 2 + 4 + 8 + 1, 18);
-        x = begin(45, "stop: all is over.");
+        x = beginIsles(45, "stop: all is over.");
         sail(x, "stop; wait 1;", 0, 1, 0);
         sail(x, "loop 9; wait 1; when day 2; stop; end; end; wait 50;", 0, 6, 2);
     }
 
     private static void askSteps() {
-        SwapBook x = begin(45, "At most 300 STEPS (when, loop count as one each time they are come to from ahead; end does not).");
+        SwapBook x = beginIsles(45, "At most 300 STEPS (when, loop count as one each time they are come to from ahead; end does not).");
         sail(x, "loop 99; wait 1; wait 1; wait 1; end; wait 1; wait 1;", 0, 300, 299);
         sail(x, "loop 99; wait 1; wait 1; wait 1; end; wait 1;", 0, 299, 298);
         sail(x, "loop 99; wait 1; wait 1; wait 1; end; wait 1; wait 1; wait 1;", 0, 300, 299);
@@ -258,7 +269,7 @@ public final class EdgesOfIslandsTest {
         }
         EDGES.refusedIn(World::plain, 45, "(5; 8: no LOG)", 8, "sail", 0);
         EDGES.refusedIn(World::plain, 45, "(5; 8: no LOG)", 8, "sail", 9999);
-        SwapBook x = begin(45, "SAILED by a seed (0 to 9,999)");
+        SwapBook x = beginIsles(45, "SAILED by a seed (0 to 9,999)");
         sail(x, "wait 1;", 0, 1, 1);
         sail(x, "wait 1;", 9999, 1, 1);
         // Without a BOOK there can be a LOG, too.
@@ -274,7 +285,7 @@ public final class EdgesOfIslandsTest {
         for (int what = 0; what < 5; what++) {
             EDGES.refusedIn(World::plain, 46, "(5; 8: there was none)", 8, "sailed", what);
         }
-        SwapBook x = begin(46, "Of sail() latest with STATUS 0");
+        SwapBook x = beginIsles(46, "Of sail() latest with STATUS 0");
         Check.log(x, "wait 7;");
         EDGES.refuses(x, 8, "sailed", 0);
         EDGES.gives(x, 0, "agreed", 0, 1);
@@ -292,7 +303,7 @@ public final class EdgesOfIslandsTest {
 
     private static void askAgreed() {
         String words = "Behind how many of so many seeds (1 to 30) from one on all ISLANDS have the same (what they have stays)";
-        SwapBook x = begin(47, words);
+        SwapBook x = beginIsles(47, words);
         Check.log(x, "ship ann to bob late 1; draw 8; ship ann to cid; wait 1;");
         int all = 0;
         for (int seed = 9970; seed <= 9999; seed++) {
@@ -304,7 +315,7 @@ public final class EdgesOfIslandsTest {
         EDGES.gives(x, 0, "has", 1);
         EDGES.gives(x, 0, "has", 2);
         EDGES.refuses(x, 8, "sailed", 0);
-        x = begin(47, words);
+        x = beginIsles(47, words);
         Check.log(x, "ship ann to bob;");
         EDGES.gives(x, 0, "agreed", 0, 30);
         Check.log(x, "ship ann to bob; ship ann to cid;");

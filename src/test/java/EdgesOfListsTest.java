@@ -21,18 +21,13 @@ public final class EdgesOfListsTest {
         EDGES.end(22, 28);
     }
 
-    private static String puts(int many) {
+    // Each says its number.
+    private static String sayingPuts(int many) {
         StringBuilder text = new StringBuilder();
         for (int i = 0; i < many; i++) {
             text.append("put ").append((char) ('a' + i)).append(" key 1 says ").append(i).append(";");
         }
         return text.toString();
-    }
-
-    private static SwapBook begin(int promise, String words, String text) {
-        SwapBook x = EDGES.begin(promise, words);
-        Check.book(x, text);
-        return x;
     }
 
     private static void askSize() {
@@ -44,7 +39,7 @@ public final class EdgesOfListsTest {
         SwapBook x = EDGES.begin(22, "How many THINGS the LIST of a SET has");
         EDGES.gives(x, 0, "size", 0);
         EDGES.refuses(x, 2, "size", 1);
-        x = begin(22, "How many THINGS the LIST of a SET has", puts(16));
+        x = EDGES.begin(22, "How many THINGS the LIST of a SET has", sayingPuts(16));
         EDGES.gives(x, 16, "size", 65535);
         EDGES.gives(x, 0, "size", 0);
         EDGES.gives(x, 1, "size", 32768);
@@ -54,7 +49,7 @@ public final class EdgesOfListsTest {
     private static void askGone() {
         String words = "GONE ones: with a TAKE in it that QUARRELS with nothing in it, and is not what a SETTLE in it leaves out";
         // a 0, t 1, n 2, s 3 (n, not t), u 4 (t, not n), m 5
-        SwapBook x = begin(22, words, "put a key 1 says 1; take t of a; name n of a says 2; settle s of n not t; settle u of t not n;"
+        SwapBook x = EDGES.begin(22, words, "put a key 1 says 1; take t of a; name n of a says 2; settle s of n not t; settle u of t not n;"
             + "move m of a key 3; put z key 1 says 1; take y of z;");
         EDGES.gives(x, 0, "size", 0b000011);
         EDGES.gives(x, 1, "size", 0b000111);
@@ -79,7 +74,7 @@ public final class EdgesOfListsTest {
         EDGES.refused(23, words, 8, "thing", 3, Integer.MAX_VALUE);
         EDGES.refused(23, words, 8, "thing", 3, Integer.MIN_VALUE);
         EDGES.refused(23, words, 8, "thing", 0, 0);
-        SwapBook x = begin(23, "The THING (its PUT) in a place of it", puts(16));
+        SwapBook x = EDGES.begin(23, "The THING (its PUT) in a place of it", sayingPuts(16));
         EDGES.gives(x, 0, "thing", 65535, 0);
         EDGES.gives(x, 15, "thing", 65535, 15);
         EDGES.refuses(x, 8, "thing", 65535, 16);
@@ -88,14 +83,20 @@ public final class EdgesOfListsTest {
     }
 
     private static void askByPut() {
-        SwapBook x = begin(24, "What a THING, by its PUT, SAYS there", puts(16));
+        SwapBook x = EDGES.begin(24, "What a THING, by its PUT, SAYS there", sayingPuts(16));
         EDGES.gives(x, 15, "says", 65535, 15);
         EDGES.gives(x, 0, "says", 65535, 0);
         EDGES.gives(x, 15, "says", 32768, 15);
-        x = begin(25, "Its KEY there", puts(16));
+        x = EDGES.begin(24, "What a THING, by its PUT, SAYS there", "put a key 9 says 11; put b key 5 says 22; put c key 1 says 33;");
+        for (int put = 0; put < 3; put++) {
+            EDGES.gives(x, 11 * (put + 1), "says", 7, put);
+            EDGES.gives(x, 9 - 4 * put, "key", 7, put);
+            EDGES.gives(x, 2 - put, "place", 7, put);
+        }
+        x = EDGES.begin(25, "Its KEY there", sayingPuts(16));
         EDGES.gives(x, 1, "key", 65535, 15);
         EDGES.gives(x, 1, "key", 32768, 15);
-        x = begin(26, "Its place there", puts(16));
+        x = EDGES.begin(26, "Its place there", sayingPuts(16));
         EDGES.gives(x, 15, "place", 65535, 15);
         EDGES.gives(x, 0, "place", 65535, 0);
         EDGES.gives(x, 0, "place", 32768, 15);
@@ -119,7 +120,7 @@ public final class EdgesOfListsTest {
             EDGES.refused(promise, asked, 8, BY_PUT[i], 0, 0);
             EDGES.refused(promise, asked, 8, BY_PUT[i], 7, 2);
             EDGES.refused(promise, asked, 8, BY_PUT[i], 63, 5);
-            SwapBook x = begin(promise, asked, "put a key 1 says 1; take b of a;");
+            SwapBook x = EDGES.begin(promise, asked, "put a key 1 says 1; take b of a;");
             EDGES.refuses(x, 8, BY_PUT[i], 3, 0);
             EDGES.refuses(x, 8, BY_PUT[i], 3, 1);
         }
@@ -129,24 +130,24 @@ public final class EdgesOfListsTest {
         // a 0, b 1, c 2, d 3, s 4 (b, not c), m 5 of d
         String text = "put a key 5 says 10; name b of a says 11; name c of a says 12; name d of b says 13; settle s of b not c;"
             + "move m of d key 6;";
-        SwapBook x = begin(24, "with one HEAD what that says; with none what the PUT says", text);
+        SwapBook x = EDGES.begin(24, "with one HEAD what that says; with none what the PUT says", text);
         EDGES.gives(x, 10, "says", 0b1, 0);
         EDGES.gives(x, 11, "says", 0b11, 0);
         EDGES.gives(x, 12, "says", 0b101, 0);
         EDGES.gives(x, 13, "says", 0b1011, 0);
         EDGES.gives(x, 13, "says", 0b101011, 0);
-        x = begin(24, "HEADS are its NAMES in the SET that no SETTLE in it leaves out, and on which no other such NAME in it hangs", text);
+        x = EDGES.begin(24, "HEADS are its NAMES in the SET that no SETTLE in it leaves out, and on which no other such NAME in it hangs", text);
         EDGES.gives(x, 10, "says", 0b111, 0);
         EDGES.gives(x, 11, "says", 0b10111, 0);
         EDGES.gives(x, 13, "says", 0b11111, 0);
         // All NAMES are left out: none is a HEAD.
-        x = begin(24, "with none what the PUT says", "put a key 5 says 10; name b of a says 11; take t of a; settle s of t not b;"
+        x = EDGES.begin(24, "with none what the PUT says", "put a key 5 says 10; name b of a says 11; take t of a; settle s of t not b;"
             + "settle u of b not t;");
         EDGES.gives(x, 10, "says", 0b11111, 0);
         EDGES.gives(x, 11, "says", 0b10111, 0);
         EDGES.refuses(x, 8, "says", 0b01111, 0);
         // A NAME that hangs on one left out does not make that one count again.
-        x = begin(24, "that no SETTLE in it leaves out", "put a key 5 says 10; name b of a says 11; name c of a says 12;"
+        x = EDGES.begin(24, "that no SETTLE in it leaves out", "put a key 5 says 10; name b of a says 11; name c of a says 12;"
             + "settle s of b not c; name d of c says 13 after b;");
         EDGES.gives(x, 13, "says", 0b11111, 0);
         EDGES.gives(x, 11, "says", 0b01111, 0);
@@ -157,19 +158,19 @@ public final class EdgesOfListsTest {
         // a 0, b 1, c 2 of b, d 3 and e 4 of c, f 5 of b, g 6 of a
         String text = "put a key 5 says 10; name b of a says 11; name c of b says 12; name d of c says 13; name e of c says 14;"
             + "name f of b says 15; name g of a says 16;";
-        SwapBook x = begin(24, words, text);
+        SwapBook x = EDGES.begin(24, words, text);
         EDGES.gives(x, 12, "says", 0b0011111, 0);
         EDGES.gives(x, 11, "says", 0b0101111, 0);
         EDGES.gives(x, 11, "says", 0b0111111, 0);
         EDGES.gives(x, 10, "says", 0b1111111, 0);
         EDGES.gives(x, 10, "says", 0b1000011, 0);
         // The PUT is the greatest: the NAMES of another THING, and MOVES, are none of those.
-        x = begin(24, words, "put z key 1 says 90; name y of z says 91; put a key 5 says 10 after y; move m of a key 9;"
+        x = EDGES.begin(24, words, "put z key 1 says 90; name y of z says 91; put a key 5 says 10 after y; move m of a key 9;"
             + "name b of m says 11; name c of m says 12;");
         EDGES.gives(x, 10, "says", 0b111111, 2);
         EDGES.gives(x, 91, "says", 0b111111, 0);
         // What a SETTLE leaves out is none of those.
-        x = begin(24, words, "put a key 5 says 10; name b of a says 11; name q of a says 19; settle s of q not b; name c of b says 12 after q;"
+        x = EDGES.begin(24, words, "put a key 5 says 10; name b of a says 11; name q of a says 19; settle s of q not b; name c of b says 12 after q;"
             + "name d of b says 13 after q;");
         EDGES.gives(x, 19, "says", 0b111111, 0);
     }
@@ -177,7 +178,7 @@ public final class EdgesOfListsTest {
     private static void askKeyHeads() {
         String words = "Its KEY likewise by its MOVES.";
         // a 0, b 1, c 2 of b, d 3 of b, s 4 (c, not d), e 5 of a
-        SwapBook x = begin(25, words, "put a key 10 says 5; move b of a key 11; move c of b key 12; move d of b key 13; settle s of c not d;"
+        SwapBook x = EDGES.begin(25, words, "put a key 10 says 5; move b of a key 11; move c of b key 12; move d of b key 13; settle s of c not d;"
             + "move e of a key 14; name n of b says 99;");
         EDGES.gives(x, 10, "key", 0b1, 0);
         EDGES.gives(x, 11, "key", 0b11, 0);
@@ -192,7 +193,7 @@ public final class EdgesOfListsTest {
 
     private static void askOrderOfKeys() {
         String words = "The LIST goes by KEYS, of like ones by PUTS' numbers.";
-        SwapBook x = begin(26, words, "put a key 9999 says 1; put b key 0 says 1; put c key 7 says 1; put d key 7 says 1;"
+        SwapBook x = EDGES.begin(26, words, "put a key 9999 says 1; put b key 0 says 1; put c key 7 says 1; put d key 7 says 1;"
             + "move e of d key 6; move f of a key 7; put g key 7 says 1;");
         int[] places = {3, 0, 1, 2};
         for (int put = 0; put < 4; put++) {
@@ -214,7 +215,7 @@ public final class EdgesOfListsTest {
         EDGES.refused(27, "(2; 9: either)", 9, "like", 1, 4);
         EDGES.gives(EDGES.begin(27, "1 if two SETS are LIKE, else 0"), 1, "like", 0, 0);
         // a 0, b 1 says the same, c 2 another number, m 3 to the same key, n 4 to another, t 5, z 6
-        SwapBook x = begin(27, "the same THINGS, numbers and KEYS in all places, and in which the same couples QUARREL",
+        SwapBook x = EDGES.begin(27, "the same THINGS, numbers and KEYS in all places, and in which the same couples QUARREL",
             "put a key 5 says 1; name b of a says 1; name c of a says 2; move m of a key 5; move n of a key 6; take t of a;"
             + "put z key 5 says 1;");
         EDGES.gives(x, 1, "like", 0b1, 0b11);
@@ -241,13 +242,13 @@ public final class EdgesOfListsTest {
         EDGES.refused(28, "(2; 9: either; 8: nowhere; in this order)", 9, "apart", 4, 4);
         EDGES.refused(28, "(2; 9: either; 8: nowhere; in this order)", 8, "apart", 7, 7);
         EDGES.refusedIn(SwapBook::new, 28, "8: nowhere", 8, "apart", 0, 0);
-        SwapBook x = begin(28, "one being there, the other not", puts(16));
+        SwapBook x = EDGES.begin(28, "one being there, the other not", sayingPuts(16));
         EDGES.gives(x, 0, "apart", 0, 1);
         EDGES.gives(x, 0, "apart", 1, 0);
         EDGES.gives(x, 15, "apart", 65535, 32767);
         EDGES.gives(x, 15, "apart", 32767, 65535);
         EDGES.gives(x, 14, "apart", 32767 | 32768, 65535 & ~16384);
-        x = begin(28, "APART: the first place in which their LISTS differ (a THING, what it SAYS;",
+        x = EDGES.begin(28, "APART: the first place in which their LISTS differ (a THING, what it SAYS;",
             "put a key 5 says 1; put b key 5 says 1; name c of b says 2; name d of b says 1; move e of b key 6; name f of a says 3;");
         EDGES.gives(x, 0, "apart", 0b1, 0b10);
         EDGES.gives(x, 1, "apart", 0b11, 0b111);

@@ -2,8 +2,6 @@
 public final class EdgesOfLogsTest {
     private static final Edges EDGES = new Edges("EdgesOfLogsTest");
     private static final String[] STEPS = {"make", "ship", "out", "pick", "wait", "draw", "when", "loop", "stop"};
-    private static final String[] KEYWORDS = ("island put key says take of name move settle not after make at ship to late "
-        + "twice out pick when has quiet day draw wait loop end stop").split(" ");
     private static final int FAR = Integer.MAX_VALUE;
     private static final int LOW = Integer.MIN_VALUE;
 
@@ -145,7 +143,7 @@ public final class EdgesOfLogsTest {
         EDGES.faulty(11, words, 2, "ship ann to bob twice ^late 1;");
         EDGES.faulty(11, words, 2, "ship ann to bob twice ^twice;");
         EDGES.faulty(11, words, 2, "ship ann to bob late 1 ^late 1;");
-        for (String word : KEYWORDS) {
+        for (String word : World.KEYWORDS) {
             boolean begins = word.equals("end") || java.util.Arrays.asList(STEPS).contains(word);
             EDGES.faulty(11, words, 2, (begins ? "make " : "") + "^" + word + " at ann;");
         }
@@ -241,11 +239,7 @@ public final class EdgesOfLogsTest {
             EDGES.refused(13, "5 a number that can't be.", 5, "many", what);
         }
         SwapBook x = EDGES.begin(13, "couples that would QUARREL (3)");
-        StringBuilder text = new StringBuilder("island w;island x;island y;island z;put a key 1 says 1;");
-        for (int i = 1; i < 16; i++) {
-            text.append("name ").append((char) ('a' + i)).append(" of a says 1;");
-        }
-        Check.book(x, text.toString());
+        Check.book(x, "island w;island x;island y;island z;" + World.fan("name", "says 1"));
         EDGES.gives(x, 16, "many", 0);
         EDGES.gives(x, 4, "many", 1);
         EDGES.gives(x, 1, "many", 2);
@@ -284,16 +278,18 @@ public final class EdgesOfLogsTest {
         for (int change = 0; change < levels.length; change++) {
             EDGES.gives(x, levels[change], "change", change, 4);
         }
+        x = EDGES.begin(14, "3: its THING's PUT (SETTLE: of the first)");
+        Check.book(x, "put a key 1 says 1; put b key 1 says 1; name c of b says 1; take d of b after a; settle e of d not c;");
+        int[] things = {0, 1, 1, 1, 1};
+        for (int change = 0; change < things.length; change++) {
+            EDGES.gives(x, things[change], "change", change, 3);
+        }
         askLongChain();
     }
 
     private static void askLongChain() {
         SwapBook x = EDGES.begin(14, "else one more than the greatest of those that it needs directly");
-        StringBuilder text = new StringBuilder("put a key 1 says 1;");
-        for (int i = 1; i < 16; i++) {
-            text.append("move ").append((char) ('a' + i)).append(" of ").append((char) ('a' + i - 1)).append(" key 1;");
-        }
-        Check.book(x, text.toString());
+        Check.book(x, World.chain());
         for (int change = 0; change < 16; change++) {
             EDGES.gives(x, change, "change", change, 4);
             EDGES.gives(x, 0, "change", change, 3);

@@ -22,36 +22,8 @@ public final class EdgesOfOrdersTest {
         askSwap();
         askForward();
         askSwaps();
+        askLastCall();
         EDGES.end(33, 42);
-    }
-
-    private static String puts(int many) {
-        StringBuilder text = new StringBuilder();
-        for (int i = 0; i < many; i++) {
-            text.append("put ").append((char) ('a' + i)).append(" key 1 says 1;");
-        }
-        return text.toString();
-    }
-
-    private static String chain() {
-        StringBuilder text = new StringBuilder("put a key 1 says 1;");
-        for (int i = 1; i < 16; i++) {
-            text.append("name ").append((char) ('a' + i)).append(" of ").append((char) ('a' + i - 1)).append(" says 1;");
-        }
-        return text.toString();
-    }
-
-    private static SwapBook begin(int promise, String words, String text) {
-        SwapBook x = EDGES.begin(promise, words);
-        Check.book(x, text);
-        return x;
-    }
-
-    private static void lay(SwapBook x, int tray, int sort, long... row) {
-        x.tray(tray, sort, row.length);
-        for (int place = 0; place < row.length; place++) {
-            x.write(tray, place, row[place]);
-        }
     }
 
     private static void askRow(SwapBook x, int... row) {
@@ -70,26 +42,26 @@ public final class EdgesOfOrdersTest {
         SwapBook x = EDGES.begin(33, "How many ORDERS of a SET there are");
         EDGES.gives(x, 1, "orders", 0);
         EDGES.refuses(x, 2, "orders", 1);
-        x = begin(33, "How many ORDERS of a SET there are", puts(16));
+        x = EDGES.begin(33, "How many ORDERS of a SET there are", World.puts(16));
         EDGES.gives(x, 1, "orders", 0);
         EDGES.gives(x, 1, "orders", 32768);
         EDGES.gives(x, ALL_OF_16, "orders", 65535);
         EDGES.gives(x, ALL_OF_16 / 16, "orders", 65534);
-        EDGES.gives(begin(33, "An ORDER of CHANGES HOLDS, if each stands behind all that it hangs on.", chain()), 1, "orders", 65535);
+        EDGES.gives(EDGES.begin(33, "An ORDER of CHANGES HOLDS, if each stands behind all that it hangs on.", World.chain()), 1, "orders", 65535);
         // All puts ahead of the last one, and one that all others hang on.
-        x = begin(33, "An ORDER of CHANGES HOLDS", puts(15) + "take p of a after b c d e f g h i j k l m n o;");
+        x = EDGES.begin(33, "An ORDER of CHANGES HOLDS", World.puts(15) + "take p of a after b c d e f g h i j k l m n o;");
         EDGES.gives(x, ALL_OF_16 / 16, "orders", 65535);
     }
 
     private static void askAhead() {
-        SwapBook x = begin(34, "in how many of these one CHANGE of it stands ahead of another one", puts(16));
+        SwapBook x = EDGES.begin(34, "in how many of these one CHANGE of it stands ahead of another one", World.puts(16));
         EDGES.gives(x, 1, "ahead", 65535, 15, 0);
         EDGES.gives(x, 1, "top");
         EDGES.gives(x, 2, "bottom");
         EDGES.gives(x, 1, "ahead", 32769, 0, 15);
         EDGES.gives(x, 1, "top");
         EDGES.gives(x, 2, "bottom");
-        x = begin(34, "in how many of these one CHANGE of it stands ahead of another one", chain());
+        x = EDGES.begin(34, "in how many of these one CHANGE of it stands ahead of another one", World.chain());
         EDGES.gives(x, 1, "ahead", 65535, 0, 15);
         EDGES.gives(x, 1, "top");
         EDGES.gives(x, 1, "bottom");
@@ -133,7 +105,7 @@ public final class EdgesOfOrdersTest {
         SwapBook x = EDGES.begin(35, "The ORDER is the one of a number (0: the first) of a SET: how many CHANGES");
         EDGES.gives(x, 0, "ordered", 0, 0);
         EDGES.refuses(x, 8, "orderAt", 0);
-        x = begin(35, "The ORDER is the one of a number (0: the first) of a SET: how many CHANGES", puts(3));
+        x = EDGES.begin(35, "The ORDER is the one of a number (0: the first) of a SET: how many CHANGES", World.puts(3));
         EDGES.gives(x, 3, "ordered", 7, 5);
         askRow(x, 2, 1, 0);
         EDGES.gives(x, 1, "ordered", 4, 0);
@@ -144,7 +116,7 @@ public final class EdgesOfOrdersTest {
 
     private static void askFirstAndLast() {
         String words = "by numbers: the first is the one with the least CHANGE first, then the least next ..; and so on.";
-        SwapBook x = begin(35, words, puts(16));
+        SwapBook x = EDGES.begin(35, words, World.puts(16));
         EDGES.gives(x, 16, "ordered", 65535, 0);
         askRow(x, 0, 1, 2, 3, 4, 5, 6, 7, 8, 9, 10, 11, 12, 13, 14, 15);
         EDGES.gives(x, 16, "ordered", 65535, ALL_OF_16 - 1);
@@ -153,7 +125,7 @@ public final class EdgesOfOrdersTest {
         EDGES.gives(x, ALL_OF_16 - 1, "number");
         EDGES.gives(x, 16, "ordered", 65535, ALL_OF_16 / 16);
         askRow(x, 1, 0, 2, 3, 4, 5, 6, 7, 8, 9, 10, 11, 12, 13, 14, 15);
-        x = begin(35, words, "put a key 1 says 1; take b of a; put c key 1 says 1;");
+        x = EDGES.begin(35, words, "put a key 1 says 1; take b of a; put c key 1 says 1;");
         int[][] rows = {{0, 1, 2}, {0, 2, 1}, {2, 0, 1}};
         for (int number = 0; number < 3; number++) {
             EDGES.gives(x, 3, "ordered", 7, number);
@@ -161,21 +133,21 @@ public final class EdgesOfOrdersTest {
             EDGES.gives(x, number, "number");
         }
         EDGES.refuses(x, 5, "ordered", 7, 3);
-        x = begin(35, words, chain());
+        x = EDGES.begin(35, words, World.chain());
         EDGES.gives(x, 16, "ordered", 65535, 0);
         EDGES.refuses(x, 5, "ordered", 65535, 1);
     }
 
     private static void askOrder() {
         String words = "The ORDER is what stands in a TRAY, so many CHANGES (0 to 16)";
-        SwapBook x = begin(36, words, puts(16));
+        SwapBook x = EDGES.begin(36, words, World.puts(16));
         long[] row = new long[17];
         for (int k = 0; k < 16; k++) {
             row[k] = 15 - k;
         }
         row[16] = 99;
         for (int sort = 0; sort < 4; sort++) {
-            lay(x, sort, sort, row);
+            World.lay(x, sort, sort, row);
             EDGES.gives(x, 1, "order", sort, 16);
             EDGES.gives(x, ALL_OF_16 - 1, "number");
             EDGES.gives(x, 1, "order", sort, 1);
@@ -207,33 +179,33 @@ public final class EdgesOfOrdersTest {
         EDGES.refused(36, words, 9, "order", 1, 4);
         EDGES.refused(36, words, 9, "order", 1, 1);
         EDGES.refused(36, words, 5, "order", 2, 1);
-        SwapBook x = begin(36, "5: no CHANGE, one again", "put a key 1 says 1; put b key 1 says 1; take c of a;");
+        SwapBook x = EDGES.begin(36, "5: no CHANGE, one again", "put a key 1 says 1; put b key 1 says 1; take c of a;");
         for (long v : new long[] {3, 16, 32, -1, 1L << 32, Long.MIN_VALUE, Long.MAX_VALUE}) {
-            lay(x, 0, 3, 0, v);
+            World.lay(x, 0, 3, 0, v);
             EDGES.refuses(x, 5, "order", 0, 2);
             EDGES.gives(x, 1, "order", 0, 1);
         }
-        lay(x, 0, 3, 1, 0, 1);
+        World.lay(x, 0, 3, 1, 0, 1);
         EDGES.refuses(x, 5, "order", 0, 3);
         // Not in this order 9 ahead of 5.
-        lay(x, 0, 3, 2, 0, 2);
+        World.lay(x, 0, 3, 2, 0, 2);
         EDGES.refuses(x, 5, "order", 0, 3);
         EDGES.refuses(x, 9, "order", 0, 2);
-        lay(x, 0, 3, 1, 2);
+        World.lay(x, 0, 3, 1, 2);
         EDGES.refuses(x, 9, "order", 0, 2);
-        lay(x, 0, 3, 0, 2);
+        World.lay(x, 0, 3, 0, 2);
         EDGES.gives(x, 1, "order", 0, 2);
     }
 
     private static void askNumber() {
         SwapBook x = EDGES.begin(37, "The number of the ORDER among those of its SET.");
         EDGES.gives(x, 0, "number");
-        x = begin(37, "The number of the ORDER among those of its SET.", puts(16));
+        x = EDGES.begin(37, "The number of the ORDER among those of its SET.", World.puts(16));
         EDGES.gives(x, 0, "number");
-        lay(x, 0, 0, 15);
+        World.lay(x, 0, 0, 15);
         x.order(0, 1);
         EDGES.gives(x, 0, "number");
-        lay(x, 0, 0, 15, 0);
+        World.lay(x, 0, 0, 15, 0);
         x.order(0, 2);
         EDGES.gives(x, 1, "number");
         for (long number : new long[] {0, 1, ALL_OF_16 / 2, ALL_OF_16 - 1}) {
@@ -247,7 +219,7 @@ public final class EdgesOfOrdersTest {
             EDGES.refused(38, "The k-th CHANGE of the ORDER (8: none such).", 8, "orderAt", k);
         }
         EDGES.refusedIn(World::plain, 38, "The k-th CHANGE of the ORDER (8: none such).", 8, "orderAt", 0);
-        SwapBook x = begin(38, "The k-th CHANGE of the ORDER", puts(16));
+        SwapBook x = EDGES.begin(38, "The k-th CHANGE of the ORDER", World.puts(16));
         x.ordered(65535, 0);
         EDGES.gives(x, 0, "orderAt", 0);
         EDGES.gives(x, 15, "orderAt", 15);
@@ -260,23 +232,24 @@ public final class EdgesOfOrdersTest {
         }
         EDGES.refusedIn(World::plain, 39, "(8; NONE with STATUS 0: none)", 8, "acts", 0);
         // a 0, b 1, t 2, n 3, m 4, s 5, u 6
-        SwapBook x = begin(39, "NONE, if it is not there; SETTLE: NONE", "put a key 5 says 1; put b key 3 says 1; take t of a; name n of a says 1;"
+        SwapBook x = EDGES.begin(39, "NONE, if it is not there; SETTLE: NONE", "put a key 5 says 1; put b key 3 says 1; take t of a; name n of a says 1;"
             + "move m of a key 1; settle s of n not t; take u of a;");
-        lay(x, 0, 0, 0, 2, 6, 3, 4, 5, 1);
+        World.lay(x, 0, 0, 0, 2, 6, 3, 4, 5, 1);
         EDGES.gives(x, 1, "order", 0, 7);
         // t takes a out, so u and n find it gone; n quarrels with both: it is there again for m.
         int[] places = {0, 0, -1, -1, 0, -1, 1};
         for (int k = 0; k < places.length; k++) {
             EDGES.gives(x, places[k], "acts", k);
         }
-        x = begin(39, "PUT: where the THING is in the LIST of those up to it (it, too)", puts(16));
+        x = EDGES.begin(39, "PUT: where the THING is in the LIST of those up to it (it, too)", World.puts(16));
         x.ordered(65535, 0);
         EDGES.gives(x, 0, "acts", 0);
         EDGES.gives(x, 15, "acts", 15);
         EDGES.refuses(x, 8, "acts", 16);
         x.ordered(65535, ALL_OF_16 - 1);
+        EDGES.gives(x, 0, "acts", 0);
         EDGES.gives(x, 0, "acts", 15);
-        x = begin(39, "others: where it is in the LIST of those ahead of it", "put a key 5 says 1; put b key 3 says 1; move m of a key 1; move n of m key 9;");
+        x = EDGES.begin(39, "others: where it is in the LIST of those ahead of it", "put a key 5 says 1; put b key 3 says 1; move m of a key 1; move n of m key 9;");
         x.ordered(15, 0);
         EDGES.gives(x, 1, "acts", 2);
         EDGES.gives(x, 0, "acts", 3);
@@ -292,7 +265,7 @@ public final class EdgesOfOrdersTest {
         // The ORDER of the full world is 0, 2, 1, 4.
         EDGES.refused(40, words, 9, "swap", 0);
         EDGES.refused(40, words, 9, "swap", 2);
-        SwapBook x = begin(40, words, puts(16));
+        SwapBook x = EDGES.begin(40, words, World.puts(16));
         x.ordered(65535, 0);
         EDGES.gives(x, 1, "swap", 14);
         EDGES.refuses(x, 8, "swap", 15);
@@ -300,7 +273,7 @@ public final class EdgesOfOrdersTest {
         askRow(x, 1, 0, 2, 3, 4, 5, 6, 7, 8, 9, 10, 11, 12, 13, 15, 14);
         x.ordered(32768, 0);
         EDGES.refuses(x, 8, "swap", 0);
-        x = begin(40, "Two neighbours may be SWAPPED, if the second does not need the first directly.",
+        x = EDGES.begin(40, "Two neighbours may be SWAPPED, if the second does not need the first directly.",
             "put a key 1 says 1; put b key 1 says 1; take c of a after b; name d of a says 1; settle e of d not c;");
         x.ordered(31, 0);
         EDGES.refuses(x, 9, "swap", 1);
@@ -321,13 +294,13 @@ public final class EdgesOfOrdersTest {
         EDGES.refused(41, words, 8, "forward", 3);
         EDGES.refused(41, words, 8, "forward", 5);
         EDGES.refusedIn(World::plain, 41, words, 8, "forward", 0);
-        SwapBook x = begin(41, "the how manieth it is then (0 the first)", puts(16));
+        SwapBook x = EDGES.begin(41, "the how manieth it is then (0 the first)", World.puts(16));
         x.ordered(65535, 0);
         EDGES.gives(x, 0, "forward", 0);
         EDGES.gives(x, 0, "forward", 15);
         askRow(x, 15, 0, 1, 2, 3, 4, 5, 6, 7, 8, 9, 10, 11, 12, 13, 14);
         EDGES.gives(x, 0, "forward", 15);
-        x = begin(41, "A CHANGE of the ORDER is SWAPPED with the one ahead of it as long as it may",
+        x = EDGES.begin(41, "A CHANGE of the ORDER is SWAPPED with the one ahead of it as long as it may",
             "put a key 1 says 1; put b key 1 says 1; put c key 1 says 1; take d of b;");
         x.ordered(15, 0);
         EDGES.gives(x, 2, "forward", 3);
@@ -341,7 +314,7 @@ public final class EdgesOfOrdersTest {
     private static void askSwaps() {
         SwapBook x = EDGES.begin(42, "The fewest swaps that lead from the ORDER to the first one of its SET.");
         EDGES.gives(x, 0, "swaps");
-        x = begin(42, "The fewest swaps that lead from the ORDER to the first one of its SET.", puts(16));
+        x = EDGES.begin(42, "The fewest swaps that lead from the ORDER to the first one of its SET.", World.puts(16));
         EDGES.gives(x, 0, "swaps");
         x.ordered(65535, 0);
         EDGES.gives(x, 0, "swaps");
@@ -351,5 +324,17 @@ public final class EdgesOfOrdersTest {
         EDGES.gives(x, 0, "swaps");
         x.ordered(32769, 1);
         EDGES.gives(x, 1, "swaps");
+    }
+
+    // The calls up to the 512th answer as the first ones do.
+    private static void askLastCall() {
+        SwapBook x = EDGES.begin(33, "An object is used for at most 512 calls after it has been made", World.chain());
+        int fed = (World.chain().length() + 19) / 20 + 1;
+        for (int call = fed; call < 511; call++) {
+            boolean right = call % 2 == 0 ? x.orders(65535) == 1 : x.ahead(255, 0, 1);
+            EDGES.due("call " + call, right ? 1 : 0, 1);
+        }
+        EDGES.due("the last call but one", x.ordered(65535, 0), 16);
+        EDGES.due("the last call", x.number(), 0);
     }
 }

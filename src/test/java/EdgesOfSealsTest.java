@@ -22,49 +22,22 @@ public final class EdgesOfSealsTest {
         EDGES.end(48, 51);
     }
 
-    private static String puts(int many) {
-        StringBuilder text = new StringBuilder();
-        for (int i = 0; i < many; i++) {
-            text.append("put ").append((char) ('a' + i)).append(" key 1 says 1;");
-        }
-        return text.toString();
-    }
-
-    private static SwapBook begin(int promise, String words, String text) {
-        SwapBook x = EDGES.begin(promise, words);
-        Check.book(x, text);
-        return x;
-    }
-
-    private static void askRow(SwapBook x, int tray, long... row) {
-        for (int place = 0; place < row.length; place++) {
-            EDGES.gives(x, row[place], "read", tray, place);
-        }
-    }
-
-    private static void lay(SwapBook x, int tray, int sort, long... row) {
-        x.tray(tray, sort, row.length);
-        for (int place = 0; place < row.length; place++) {
-            x.write(tray, place, row[place]);
-        }
-    }
-
     private static void askSeal() {
         SwapBook x = EDGES.begin(48, "A SET is SEALED in a TRAY from place 0 on: how many numbers");
-        lay(x, 0, 1, 9, 9, 9, 9);
+        World.lay(x, 0, 1, 9, 9, 9, 9);
         EDGES.gives(x, 3, "seal", 0, 0);
-        askRow(x, 0, 1, 0, 1, 9);
-        x = begin(48, SEALED, "put a key 1 says 1;take b of a;name c of a says 1;move d of a key 1;settle e of c not b;");
+        EDGES.givesRow(x, 0, 1, 0, 1, 9);
+        x = EDGES.begin(48, SEALED, "put a key 1 says 1;take b of a;name c of a says 1;move d of a key 1;settle e of c not b;");
         for (int sort = 1; sort < 4; sort++) {
             x.tray(sort, sort, 8);
             EDGES.gives(x, 8, "seal", sort, 31);
-            askRow(x, sort, 1, 5, 0, 6, 12, 18, 24, 1 + 5 + 6 + 12 + 18 + 24);
+            EDGES.givesRow(x, sort, 1, 5, 0, 6, 12, 18, 24, 1 + 5 + 6 + 12 + 18 + 24);
             EDGES.gives(x, 31, "open", sort);
         }
-        x = begin(48, SEALED, puts(16));
+        x = EDGES.begin(48, SEALED, World.puts(16));
         x.tray(0, 1, 19);
         EDGES.gives(x, 19, "seal", 0, 65535);
-        askRow(x, 0, 1, 16, 0, 5, 10, 15, 20, 25, 30, 35, 40, 45, 50, 55, 60, 65, 70, 75, 617 % 251);
+        EDGES.givesRow(x, 0, 1, 16, 0, 5, 10, 15, 20, 25, 30, 35, 40, 45, 50, 55, 60, 65, 70, 75, 617 % 251);
         EDGES.gives(x, 65535, "open", 0);
     }
 
@@ -88,7 +61,7 @@ public final class EdgesOfSealsTest {
         EDGES.refused(48, words, 5, "seal", 1, 0);
         EDGES.refused(48, words, 9, "seal", 2, 4);
         EDGES.refused(48, words, 9, "seal", 0, 6);
-        SwapBook x = begin(48, words, puts(7));
+        SwapBook x = EDGES.begin(48, words, World.puts(7));
         x.tray(0, 0, 2);
         EDGES.refuses(x, 4, "seal", 0, 0);
         x.tray(0, 0, 3);
@@ -111,7 +84,7 @@ public final class EdgesOfSealsTest {
 
     // SETS whose numbers make 250, 251, 252 and 502 together.
     private static void askWhatIsLeft() {
-        SwapBook x = begin(48, "what is left of all these together by 251", puts(16));
+        SwapBook x = EDGES.begin(48, "what is left of all these together by 251", World.puts(16));
         x.tray(0, 1, 19);
         int[] sets = {setOf(15, 14, 13, 7), setOf(15, 14, 11, 8, 1), setOf(15, 14, 10, 7, 2, 1),
             setOf(15, 14, 13, 12, 11, 10, 9, 8, 3, 2, 1)};
@@ -135,13 +108,13 @@ public final class EdgesOfSealsTest {
         EDGES.refused(49, OPEN, 3, "open", 3);
         EDGES.refused(49, OPEN, 9, "open", 2);
         SwapBook x = EDGES.begin(49, "The SET that a TRAY has SEALED");
-        lay(x, 0, 1, 1, 0, 1);
+        World.lay(x, 0, 1, 1, 0, 1);
         EDGES.gives(x, 0, "open", 0);
-        askRow(x, 0, 1, 0, 1);
+        EDGES.givesRow(x, 0, 1, 0, 1);
     }
 
     private static void opens(SwapBook x, int set, int status, long... row) {
-        lay(x, 3, 3, row);
+        World.lay(x, 3, 3, row);
         if (status == 0) {
             EDGES.gives(x, set, "open", 3);
         } else {
@@ -150,7 +123,7 @@ public final class EdgesOfSealsTest {
     }
 
     private static void askTooFew() {
-        SwapBook x = begin(49, "4: it has fewer numbers than that takes, three at least", puts(3));
+        SwapBook x = EDGES.begin(49, "4: it has fewer numbers than that takes, three at least", World.puts(3));
         opens(x, -1, 4);
         opens(x, -1, 4, 1);
         opens(x, -1, 4, 0, 9);
@@ -161,14 +134,14 @@ public final class EdgesOfSealsTest {
         opens(x, -1, 4, 1, 3, 0, 5, 10);
         opens(x, 7, 0, 1, 3, 0, 5, 10, 19);
         opens(x, 7, 0, 1, 3, 0, 5, 10, 19, -1, 4);
-        x = begin(49, "4: it has fewer numbers than that takes, three at least", puts(16));
+        x = EDGES.begin(49, "4: it has fewer numbers than that takes, three at least", World.puts(16));
         opens(x, -1, 4, 1, 16, 0, 5, 10, 15, 20, 25, 30, 35, 40, 45, 50, 55, 60, 65, 70, 75);
         opens(x, 65535, 0, 1, 16, 0, 5, 10, 15, 20, 25, 30, 35, 40, 45, 50, 55, 60, 65, 70, 75, 115);
     }
 
     private static void askNotSo() {
         // a 0, b 1, c 2: 0, 7, 10
-        SwapBook x = begin(49, OPENED, "put a key 1 says 1; name b of a says 1; put c key 1 says 1;");
+        SwapBook x = EDGES.begin(49, OPENED, "put a key 1 says 1; name b of a says 1; put c key 1 says 1;");
         opens(x, 7, 0, 1, 3, 0, 7, 10, 21);
         for (long head : new long[] {0, 2, -1, 257, (1L << 32) + 1}) {
             opens(x, -1, 9, head, 1, 0, 2);
@@ -194,10 +167,13 @@ public final class EdgesOfSealsTest {
         // It does not HOLD.
         opens(x, -1, 9, 1, 1, 7, 9);
         opens(x, -1, 9, 1, 2, 7, 10, 20);
+        // What is left is what a CHANGE farther on would be SEALED as.
+        x = EDGES.begin(49, OPENED, "put a key 1 says 1; name b of a says 1; name c of a says 1; put d key 1 says 1; move e of a key 1;");
+        opens(x, 7, 0, 1, 3, 0, 7, 12, 23);
         x = EDGES.begin(49, OPENED);
         opens(x, -1, 9, 1, 1, 0, 2);
         opens(x, 0, 0, 1, 0, 1);
-        x = begin(49, OPENED, "put a key 1 says 1; take b of a;");
+        x = EDGES.begin(49, OPENED, "put a key 1 says 1; take b of a;");
         opens(x, 3, 0, 1, 2, 0, 6, 9);
         Check.book(x, "put a key 1 says 1; name b of a says 1;");
         EDGES.refuses(x, 9, "open", 3);
@@ -233,7 +209,7 @@ public final class EdgesOfSealsTest {
     private static void askKept() {
         SwapBook x = EDGES.begin(51, "the BOOK, what ISLANDS have, the ORDER, the LOG are kept as they are");
         x.mark();
-        Check.book(x, "island i;" + puts(2));
+        Check.book(x, "island i;" + World.puts(2));
         x.give(0, 3);
         x.ordered(3, 1);
         Check.log(x, "out a at i;");
@@ -259,7 +235,7 @@ public final class EdgesOfSealsTest {
         EDGES.gives(x, 0, "many", 1);
         EDGES.refuses(x, 8, "orderAt", 0);
         EDGES.refuses(x, 8, "sail", 0);
-        x = begin(51, "all is taken back to the latest MARK, which is gone then", "island i;" + puts(1));
+        x = EDGES.begin(51, "all is taken back to the latest MARK, which is gone then", "island i;" + World.puts(1));
         x.mark();
         x.give(0, 1);
         x.mark();
@@ -274,7 +250,7 @@ public final class EdgesOfSealsTest {
 
     // TRAYS, the FRACTION, the tape, what fault() and sailed() tell are none of what a MARK keeps.
     private static void askNotKept() {
-        SwapBook x = begin(51, "the BOOK, what ISLANDS have, the ORDER, the LOG are kept as they are", puts(2));
+        SwapBook x = EDGES.begin(51, "the BOOK, what ISLANDS have, the ORDER, the LOG are kept as they are", World.puts(2));
         x.mark();
         x.tray(0, 0, 1);
         x.write(0, 0, 7);

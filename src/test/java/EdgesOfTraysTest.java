@@ -222,31 +222,25 @@ public final class EdgesOfTraysTest {
         return x;
     }
 
-    private static void askRow(SwapBook x, int tray, int... row) {
-        for (int place = 0; place < row.length; place++) {
-            EDGES.gives(x, row[place], "read", tray, place);
-        }
-    }
-
     private static void askPour() {
         EDGES.begin(8, "come to place j on of another one, or the same, as they were");
         SwapBook x = counting();
         EDGES.gives(x, 1, "pour", 0, 0, 0, 1, 4);
-        askRow(x, 0, 1, 1, 2, 3, 4);
+        EDGES.givesRow(x, 0, 1, 1, 2, 3, 4);
         x = counting();
         EDGES.gives(x, 1, "pour", 0, 1, 0, 0, 4);
-        askRow(x, 0, 2, 3, 4, 5, 5);
+        EDGES.givesRow(x, 0, 2, 3, 4, 5, 5);
         x = counting();
         EDGES.gives(x, 1, "pour", 0, 0, 0, 0, 5);
-        askRow(x, 0, 1, 2, 3, 4, 5);
+        EDGES.givesRow(x, 0, 1, 2, 3, 4, 5);
         EDGES.begin(8, "So many numbers from place i on");
         EDGES.gives(x, 1, "pour", 0, 2, 1, 0, 3);
-        askRow(x, 1, 3, 4, 5);
+        EDGES.givesRow(x, 1, 3, 4, 5);
         EDGES.gives(x, 1, "pour", 0, 0, 1, 2, 1);
-        askRow(x, 1, 3, 4, 1);
+        EDGES.givesRow(x, 1, 3, 4, 1);
         EDGES.gives(x, 1, "pour", 0, 5, 1, 3, 0);
-        askRow(x, 1, 3, 4, 1);
-        askRow(x, 0, 1, 2, 3, 4, 5);
+        EDGES.givesRow(x, 1, 3, 4, 1);
+        EDGES.givesRow(x, 0, 1, 2, 3, 4, 5);
     }
 
     private static void askPourRefused() {

@@ -6,9 +6,44 @@ final class World {
     // a 0, b 1, c 2, d 3, e 4, f 5
     static final String BOOK = "island ann;island bob;put a key 5 says 1;put b key 3 says 2;name c of a says 7;"
         + "name d of a says 8;move e of b key 9;settle f of c not d;";
+    static final List<String> KEYWORDS = List.of(("island put key says take of name move settle not after make at ship to late "
+        + "twice out pick when has quiet day draw wait loop end stop").split(" "));
     private static final int BLANKS = 0x20202020;
 
     private World() {
+    }
+
+    static String puts(int many) {
+        StringBuilder text = new StringBuilder();
+        for (int i = 0; i < many; i++) {
+            text.append("put ").append((char) ('a' + i)).append(" key 1 says 1;");
+        }
+        return text.toString();
+    }
+
+    // a 0, b 1 of a, c 2 of b, .. p 15 of o
+    static String chain() {
+        StringBuilder text = new StringBuilder("put a key 1 says 1;");
+        for (int i = 1; i < 16; i++) {
+            text.append("name ").append((char) ('a' + i)).append(" of ").append((char) ('a' + i - 1)).append(" says 1;");
+        }
+        return text.toString();
+    }
+
+    // b 1 to p 15 all of a 0, each by its kind: no two hang on one another.
+    static String fan(String kind, String value) {
+        StringBuilder text = new StringBuilder("put a key 1 says 1;");
+        for (int i = 1; i < 16; i++) {
+            text.append(kind).append(" ").append((char) ('a' + i)).append(" of a ").append(value).append(";");
+        }
+        return text.toString();
+    }
+
+    static void lay(SwapBook x, int tray, int sort, long... row) {
+        x.tray(tray, sort, row.length);
+        for (int place = 0; place < row.length; place++) {
+            x.write(tray, place, row[place]);
+        }
     }
 
     static SwapBook full() {
