@@ -15,6 +15,8 @@ final class Edges {
     private static final Path DOCUMENT = Path.of("../shared/DOC.md");
     private static final Set<String> WITHOUT_STATUS = Set.of("status", "fault", "feed", "top", "bottom");
 
+    private static final int NO_SUCH_WHAT = 4;
+
     private final Check check;
     private final String document;
     private final Set<Integer> promises = new TreeSet<>();
@@ -91,10 +93,15 @@ final class Edges {
         return edge + name + Arrays.toString(with);
     }
 
-    // The answer (true is 1), with STATUS 0 if the call has one.
+    // The answer (true is 1), with STATUS 0 if the call has one; it is 5 ahead of it, so that a call
+    // that leaves it alone is seen.
     void gives(SwapBook x, long want, String name, long... with) {
+        boolean hasStatus = !WITHOUT_STATUS.contains(name);
+        if (hasStatus) {
+            x.many(NO_SUCH_WHAT);
+        }
         check.due(told(name, with), call(x, name, with), want);
-        if (!WITHOUT_STATUS.contains(name)) {
+        if (hasStatus) {
             check.due(told(name, with) + " status", x.status(), 0);
         }
     }
