@@ -5,6 +5,7 @@ import java.nio.file.Files;
 import java.nio.file.Path;
 import java.util.Arrays;
 import java.util.List;
+import java.util.Map;
 import java.util.Set;
 import java.util.TreeSet;
 import java.util.function.Supplier;
@@ -61,7 +62,7 @@ final class Edges {
 
     // ---- single calls, by their names, so that a wrong one can be told with what it was asked
 
-    private static long call(SwapBook x, String name, long... with) {
+    static long call(SwapBook x, String name, long... with) {
         for (Method m : SwapBook.class.getDeclaredMethods()) {
             if (m.getName().equals(name) && m.getParameterCount() == with.length) {
                 return invoke(x, m, with);
@@ -132,11 +133,17 @@ final class Edges {
         SwapBook x = maker.get();
         SwapBook twin = maker.get();
         refuses(x, status, name, with);
-        sameSight(told(name, with), World.sight(x), World.sight(twin));
+        changesOnly(told(name, with), x, twin);
     }
 
-    void sameSight(String what, List<Long> got, List<Long> want) {
-        check.due(what + " changes nothing", got.equals(want), true);
+    // Besides these parts all that can be seen of an object is as in its twin, and these are not.
+    void changesOnly(String what, SwapBook x, SwapBook twin, String... parts) {
+        Map<String, List<Long>> got = World.parts(x);
+        Map<String, List<Long>> want = World.parts(twin);
+        for (String part : want.keySet()) {
+            boolean same = got.get(part).equals(want.get(part));
+            check.due(what + " leaves the " + part, same, !Arrays.asList(parts).contains(part));
+        }
     }
 
     // ---- texts

@@ -76,7 +76,7 @@ public final class EdgesOfBooksTest {
         twin.back();
         EDGES.gives(x, -1, "feed", -1, -1, -1, -1, -1);
         EDGES.gives(x, 0, "status");
-        EDGES.sameSight("feed", World.sight(x), World.sight(twin));
+        EDGES.changesOnly("feed", x, twin);
     }
 
     private static void askLength() {
@@ -127,8 +127,7 @@ public final class EdgesOfBooksTest {
         EDGES.refuses(x, 10, "book", 12);
         EDGES.gives(x, 2, "fault", 0);
         EDGES.gives(x, 12, "fault", 1);
-        EDGES.sameSight("book(12)", World.sightOfTrays(x), World.sightOfTrays(twin));
-        EDGES.sameSight("book(12)", World.sightOfMarks(x), World.sightOfMarks(twin));
+        EDGES.changesOnly("book(12)", x, twin, "tape", "fault");
     }
 
     private static void askNewOne() {

@@ -63,8 +63,7 @@ public final class EdgesOfLogsTest {
         SwapBook x = World.full();
         SwapBook twin = World.full();
         EDGES.refuses(x, 10, "log", 12);
-        EDGES.sameSight("log(12)", World.sightOfTrays(x), World.sightOfTrays(twin));
-        EDGES.sameSight("log(12)", World.sightOfMarks(x), World.sightOfMarks(twin));
+        EDGES.changesOnly("log(12)", x, twin, "tape", "fault");
         EDGES.begin(11, "Likewise the LOG: how many STEPS");
         x = World.loaded();
         EDGES.gives(x, 6, "sail", 1);

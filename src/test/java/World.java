@@ -1,5 +1,7 @@
 import java.util.ArrayList;
+import java.util.LinkedHashMap;
 import java.util.List;
+import java.util.Map;
 
 // Objects with something in every part of them, and all that can be seen of one.
 final class World {
@@ -96,66 +98,109 @@ final class World {
         return x;
     }
 
-    // The object is of no use behind this: what can be seen only by changing it comes last.
-    static List<Long> sight(SwapBook x) {
-        List<Long> seen = new ArrayList<>();
-        seen.add(x.top());
-        seen.add(x.bottom());
-        seen.add((long) x.fault(0));
-        seen.add((long) x.fault(1));
-        for (int what = 0; what < 5; what++) {
-            seen.add((long) x.sailed(what));
+    // All that can be seen of an object, by its parts. The object is of no use behind this: what can be
+    // seen only by changing it comes last.
+    static Map<String, List<Long>> parts(SwapBook x) {
+        Map<String, List<Long>> seen = new LinkedHashMap<>();
+        seen.put("fraction", List.of(x.top(), x.bottom()));
+        seen.put("fault", List.of((long) x.fault(0), (long) x.fault(1)));
+        seen.put("voyage", voyage(x));
+        for (int tray = 0; tray < 4; tray++) {
+            seen.put("tray " + tray, tray(x, tray));
         }
-        seen.addAll(sightOfTrays(x));
-        seen.addAll(sightOfMarks(x));
-        seeTape(x, seen);
+        seen.put("book", book(x));
+        seen.put("has", has(x));
+        seen.put("order", order(x));
+        seen.put("log", log(x));
+        seen.put("marks", marks(x));
+        seen.put("tape", tape(x));
         return seen;
     }
 
-    static List<Long> sightOfTrays(SwapBook x) {
+    private static List<Long> voyage(SwapBook x) {
         List<Long> seen = new ArrayList<>();
-        for (int tray = 0; tray < 4; tray++) {
-            for (int place = 0; place < 61; place += place < 9 ? 1 : 10) {
-                seen.add(x.read(tray, place));
-                seen.add((long) x.status());
+        for (int what = 0; what < 5; what++) {
+            seen.add((long) x.sailed(what));
+        }
+        return seen;
+    }
+
+    private static List<Long> tray(SwapBook x, int tray) {
+        List<Long> seen = new ArrayList<>();
+        for (int place = 0; place < 61; place += place < 9 ? 1 : 10) {
+            seen.add(x.read(tray, place));
+            seen.add((long) x.status());
+        }
+        seen.add(x.pour(tray, 0, 2, 0, 0) ? 1L : 0L);
+        return seen;
+    }
+
+    private static List<Long> book(SwapBook x) {
+        List<Long> seen = new ArrayList<>();
+        for (int what = 0; what < 4; what++) {
+            seen.add((long) x.many(what));
+        }
+        for (int change = 0; change < 7; change++) {
+            for (int what = 0; what < 4; what++) {
+                seen.add((long) x.change(change, what));
+            }
+            seen.add((long) x.hangs(change, 0));
+        }
+        return seen;
+    }
+
+    private static List<Long> has(SwapBook x) {
+        List<Long> seen = new ArrayList<>();
+        for (int island = 0; island < 4; island++) {
+            seen.add((long) x.has(island));
+        }
+        return seen;
+    }
+
+    private static List<Long> order(SwapBook x) {
+        List<Long> seen = new ArrayList<>();
+        for (int k = 0; k < 7; k++) {
+            seen.add((long) x.orderAt(k));
+        }
+        return seen;
+    }
+
+    // What a LOG does is seen from the same beginning, whatever ISLANDS have.
+    private static List<Long> log(SwapBook x) {
+        List<Long> seen = new ArrayList<>();
+        x.give(0, 7);
+        x.give(1, 2);
+        seen.add((long) x.sail(5));
+        seen.add((long) x.status());
+        if (x.status() == 0) {
+            seen.addAll(voyage(x));
+            seen.addAll(has(x));
+        }
+        return seen;
+    }
+
+    private static List<Long> marks(SwapBook x) {
+        List<Long> seen = new ArrayList<>();
+        for (int left = 0; left < 4; left++) {
+            seen.add((long) x.back());
+            if (x.status() == 0) {
+                seen.addAll(book(x));
+                seen.addAll(has(x));
+                seen.addAll(order(x));
+                seen.addAll(log(x));
             }
         }
         return seen;
     }
 
-    // The BOOK, what ISLANDS have, the ORDER and the LOG as they are, and as each MARK keeps them.
-    static List<Long> sightOfMarks(SwapBook x) {
+    private static List<Long> tape(SwapBook x) {
         List<Long> seen = new ArrayList<>();
-        seeState(x, seen);
-        for (int marks = 0; marks < 4; marks++) {
-            seen.add((long) x.back());
-            seeState(x, seen);
-        }
-        return seen;
-    }
-
-    private static void seeState(SwapBook x, List<Long> seen) {
-        seen.add((long) x.alone());
-        for (int what = 0; what < 4; what++) {
-            seen.add((long) x.many(what));
-            seen.add((long) x.has(what));
-        }
-        for (int k = 0; k < 7; k++) {
-            seen.add((long) x.change(k, 1));
-            seen.add((long) x.orderAt(k));
-        }
-        seen.add((long) x.sail(5));
-        seen.add((long) x.sailed(0));
-        seen.add((long) x.sailed(2));
-        seen.add((long) x.has(1));
-    }
-
-    private static void seeTape(SwapBook x, List<Long> seen) {
         int length = x.feed(BLANKS, BLANKS, BLANKS, BLANKS, BLANKS);
         seen.add((long) length);
         seen.add((long) x.book(length < 0 ? 900 : length));
         seen.add((long) x.change(0, 1));
         seen.add((long) x.fault(0));
         seen.add((long) x.fault(1));
+        return seen;
     }
 }
