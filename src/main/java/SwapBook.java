@@ -1392,7 +1392,7 @@ public final class SwapBook {
             for (int k = 0; k < length && k < order.length; k++) {
                 whole |= 1 << order[k];
             }
-            countOrders(ofBook, whole);
+            countOrdersWith(ofBook, whole, NONE, NONE);
             int placed = 0;
             long number = 0;
             for (int k = 0; k < length && k < order.length; k++) {
